@@ -196,6 +196,27 @@ public final class EdgesTest {
         one.spread(1);
         Check.due("calm then", one.calm(), 0);
         calmBySpreading();
+        // Found by trying: these two come to rest behind 40 and behind 41 rounds.
+        Check.due("calm at 40", heldAtBothEnds(1, 205).calm(), 40);
+        Check.due("calm at 41", heldAtBothEnds(1, 215).calm(), Check.NOT_FOUND);
+        Check.due("behind 40", stillChanging(heldAtBothEnds(1, 205), 40), 0);
+        Check.due("behind 41, not behind 40", stillChanging(heldAtBothEnds(1, 215), 40), 1);
+        Check.due("behind 41", stillChanging(heldAtBothEnds(1, 215), 41), 0);
+    }
+
+    private static ColourPatches heldAtBothEnds(int first, int last) {
+        ColourPatches mesh = new ColourPatches();
+        mesh.hold(0, 0, first, 128, 128);
+        mesh.hold(4, 3, last, 128, 128);
+        return mesh;
+    }
+
+    /** 1 if one more round behind so many changes something, otherwise 0. */
+    private static int stillChanging(ColourPatches mesh, int rounds) {
+        for (int round = 0; round < rounds; round++) {
+            mesh.spread(1);
+        }
+        return mesh.spread(1) > 0 ? 1 : 0;
     }
 
     /** Rounds done one by one agree with what calm says, for meshes on both sides of 40. */

@@ -8,6 +8,7 @@ public final class PointsTest {
         pointErrors();
         patchOf();
         folded();
+        smallestPatch();
         area();
         count();
         Check.end();
@@ -174,6 +175,18 @@ public final class PointsTest {
             Check.due("on the line " + at, movedFold(onLine[at]), 1);
             Check.due("outside " + at, movedFold(outside[at]), 0);
         }
+    }
+
+    /** The least turn above 0 is 1. */
+    private static void smallestPatch() {
+        ColourPatches mesh = new ColourPatches();
+        mesh.move(1, 0, 1, 0);
+        mesh.move(1, 1, 1, 1);
+        mesh.move(0, 1, 0, 1);
+        Check.due("the smallest patch", mesh.patchOf(0, 0), 0);
+        Check.due("its area", mesh.patchOf(0, 5), 2);
+        mesh.move(0, 1, 0, 0);
+        Check.due("two corners in one place", mesh.patchOf(0, 0), 1);
     }
 
     private static int movedFold(int[] row) {

@@ -47,7 +47,7 @@ public final class TextTest {
     }
 
     private static void forms() {
-        String[] good = {"", "c00:000000;", "c43:ffffff;", "c12:09afAF".substring(0, 8) + "bc;", "m00:0,0;",
+        String[] good = {"", "c00:000000;", "c43:ffffff;", "c12:09afbc;", "m00:0,0;",
             "m43:999,999;", "m12:00,007;", "m12:1,23;", "m12:12,3;", "c00:012345;f00;", "c00:012345;f00;m00:5,5;c00:abcdef;",
             "c21:101010;c22:202020;f21;f22;"};
         for (String text : good) {

@@ -59,14 +59,11 @@ public final class UndoTest {
     }
 
     private static void undoOfEachChange() {
-        for (int which = 0; which < 8; which++) {
+        for (int which = 0; which <= 7; which++) {
             ColourPatches mesh = changedMesh();
-            mesh.undo();
             mesh.keep();
-            mesh.hold(0, 3, 1, 1, 1);
+            mesh.undo();
             Check.write(mesh, "c33:010203;");
-            mesh.undo();
-            mesh.undo();
             String before = Check.state(mesh);
             int states = mesh.count(3);
             doChange(mesh, which);
@@ -87,9 +84,7 @@ public final class UndoTest {
         } else if (which == 3) {
             mesh.slope(1, 2, 0, 0, 99);
         } else if (which == 4) {
-            mesh.slope(1, 2, 0, 0, 99);
-            mesh.undo();
-            mesh.hold(1, 2, 1, 1, 1);
+            mesh.loose(2, 2);
         } else if (which == 5) {
             mesh.spread(2);
         } else if (which == 6) {
