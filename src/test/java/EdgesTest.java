@@ -1,159 +1,213 @@
+import java.util.function.Consumer;
+
 /** Promises 12 to 16: agrees, crease, level, nearest, calm. */
 public final class EdgesTest {
-    public static void main(String[] args) {
-        agrees();
-        crease();
-        level();
-        nearest();
-        calm();
-        Check.end();
+    public static void main(String[] args) throws IllegalAccessException {
+        Cases.run(EdgesTest.class);
     }
 
-    private static void agrees() {
-        ColourPatches mesh = new ColourPatches();
+    private static void uneven(ColourPatches mesh) {
         mesh.hold(1, 1, 255, 0, 17);
         mesh.hold(2, 1, 0, 255, 18);
+        mesh.hold(1, 2, 3, 200, 90);
         mesh.slope(1, 1, 0, 0, 255);
         mesh.slope(2, 1, 1, 1, -255);
-        for (int patch = 0; patch < 12; patch++) {
-            Check.due("agrees with the next column", mesh.agrees(patch, 0), patch % 4 == 3 ? Check.NOT_FOUND : 1);
-            Check.due("agrees with the next row", mesh.agrees(patch, 1), patch / 4 == 2 ? Check.NOT_FOUND : 1);
-        }
-        Check.due("side 2", mesh.agrees(0, 2), Check.INVALID);
-        Check.due("side -1", mesh.agrees(0, -1), Check.INVALID);
-        Check.due("side 2 at the end", mesh.agrees(11, 2), Check.INVALID);
-        Check.due("patch 12", mesh.agrees(12, 0), Check.INVALID);
-        Check.due("patch -1", mesh.agrees(-1, 1), Check.INVALID);
-        for (int far : Check.FAR) {
-            Check.due("far patch", mesh.agrees(far, 0), Check.INVALID);
-            Check.due("far side", mesh.agrees(0, far), Check.INVALID);
-        }
-    }
-
-    private static void crease() {
-        ColourPatches mesh = new ColourPatches();
-        mesh.hold(1, 0, 100, 255, 0);
-        mesh.hold(1, 2, 3, 200, 90);
         mesh.slope(1, 1, 0, 1, -200);
-        mesh.slope(2, 1, 1, 0, 200);
-        for (int patch = 0; patch < 12; patch++) {
+    }
+
+    // ---- promise 12
+
+    static void promise12AgreesAtTheLastColumnIsNotFound() {
+        ColourPatches mesh = Look.behind(EdgesTest::uneven);
+        Check.due("patch 3", mesh.agrees(3, 0), Check.NOT_FOUND);
+        Check.due("patch 7", mesh.agrees(7, 0), Check.NOT_FOUND);
+        Check.due("patch 11", mesh.agrees(11, 0), Check.NOT_FOUND);
+    }
+
+    static void promise12AgreesAtTheLastRowIsNotFound() {
+        ColourPatches mesh = Look.behind(EdgesTest::uneven);
+        for (int patch = 8; patch <= 11; patch++) {
+            Check.due("patch " + patch, mesh.agrees(patch, 1), Check.NOT_FOUND);
+        }
+    }
+
+    static void promise12AgreesWithTheNextColumn() {
+        ColourPatches mesh = Look.behind(EdgesTest::uneven);
+        for (int patch : new int[] {0, 1, 2, 4, 5, 6, 8, 9, 10}) {
+            Check.due("patch " + patch, mesh.agrees(patch, 0), 1);
+        }
+    }
+
+    static void promise12AgreesWithTheNextRow() {
+        ColourPatches mesh = Look.behind(EdgesTest::uneven);
+        for (int patch = 0; patch <= 7; patch++) {
+            Check.due("patch " + patch, mesh.agrees(patch, 1), 1);
+        }
+    }
+
+    static void promise12AgreesWhenPatchesAreFolded() {
+        ColourPatches mesh = Look.behind(EdgesTest::uneven);
+        mesh.move(1, 1, 999, 999);
+        Check.due("by columns", mesh.agrees(0, 0), 1);
+        Check.due("by rows", mesh.agrees(0, 1), 1);
+    }
+
+    // ---- promise 13
+
+    static void promise13CreaseAtTheLastColumnIsNotFound() {
+        ColourPatches mesh = Look.behind(EdgesTest::uneven);
+        for (int at = 0; at <= 8; at++) {
+            Check.due("patch 3", mesh.crease(3, 0, at, 0), Check.NOT_FOUND);
+            Check.due("patch 7", mesh.crease(7, 0, at, 1), Check.NOT_FOUND);
+            Check.due("patch 11", mesh.crease(11, 0, at, 2), Check.NOT_FOUND);
+        }
+    }
+
+    static void promise13CreaseAtTheLastRowIsNotFound() {
+        ColourPatches mesh = Look.behind(EdgesTest::uneven);
+        for (int patch = 8; patch <= 11; patch++) {
             for (int at = 0; at <= 8; at++) {
-                for (int part = 0; part <= 2; part++) {
-                    Check.due("crease by columns", mesh.crease(patch, 0, at, part), creaseByColumns(mesh, patch, at, part));
-                    Check.due("crease by rows", mesh.crease(patch, 1, at, part), creaseByRows(mesh, patch, at, part));
-                }
+                Check.due("patch " + patch, mesh.crease(patch, 1, at, 0), Check.NOT_FOUND);
             }
         }
-        // By hand: part 0 along row 0, slopes told to be 0: 128, 100, 128 by A and B.
-        ColourPatches plain = new ColourPatches();
+    }
+
+    static void promise13CreaseAtTheLastColumnWithTheNextRowIsFound() {
+        ColourPatches mesh = new ColourPatches();
+        Check.due("patch 3", mesh.crease(3, 1, 8, 2), 0);
+        Check.due("patch 7", mesh.crease(7, 1, 8, 2), 0);
+    }
+
+    static void promise13CreaseAtTheLastRowWithTheNextColumnIsFound() {
+        ColourPatches mesh = new ColourPatches();
+        Check.due("patch 8", mesh.crease(8, 0, 8, 2), 0);
+        Check.due("patch 10", mesh.crease(10, 0, 8, 2), 0);
+    }
+
+    static void promise13CreaseOfAnEvenMeshIs0() {
+        ColourPatches mesh = new ColourPatches();
+        for (int at = 0; at <= 8; at++) {
+            Check.due("by columns", mesh.crease(5, 0, at, 1), 0);
+            Check.due("by rows", mesh.crease(5, 1, at, 1), 0);
+        }
+    }
+
+    /** The crease by the points of both patches, for each place of the edge and each part. */
+    private static void byPoints(int patch, int side) {
+        int behind = side == 0 ? patch + 1 : patch + 4;
+        for (int part = 0; part <= 2; part++) {
+            ColourPatches mesh = Look.behind(EdgesTest::uneven);
+            for (int at = 0; at <= 8; at++) {
+                int before = side == 0 ? mesh.point(patch, 7, at, part) : mesh.point(patch, at, 7, part);
+                int edge = side == 0 ? mesh.point(patch, 8, at, part) : mesh.point(patch, at, 8, part);
+                int after = side == 0 ? mesh.point(behind, 1, at, part) : mesh.point(behind, at, 1, part);
+                int due = Math.abs((before - edge) - (edge - after));
+                Check.due("patch " + patch + " at " + at + ", part " + part, mesh.crease(patch, side, at, part), due);
+            }
+        }
+    }
+
+    static void promise13CreaseFrom0To8ByColumns() {
+        for (int patch : new int[] {0, 1, 2, 4, 5, 6, 8, 9, 10}) {
+            byPoints(patch, 0);
+        }
+    }
+
+    static void promise13CreaseFrom0To8ByRows() {
+        for (int patch = 0; patch <= 7; patch++) {
+            byPoints(patch, 1);
+        }
+    }
+
+    /** Part 0 along row 0 is 128, then this, then 128, with slopes that are told to be 0. */
+    private static int creaseAround(int value) {
+        ColourPatches mesh = new ColourPatches();
         for (int column = 0; column <= 2; column++) {
-            plain.slope(column, 0, 0, 0, 0);
+            mesh.slope(column, 0, 0, 0, 0);
         }
-        plain.hold(1, 0, 100, 0, 0);
-        // At 7: (128 * 22 + 100 * 490) / 512 = 101.2; at 1 behind: the same; 100 at the edge.
-        Check.due("a crease", plain.crease(0, 0, 0, 0), 2);
-        int[][] wrong = {{12, 0, 0, 0}, {-1, 0, 0, 0}, {0, 2, 0, 0}, {0, -1, 0, 0}, {0, 0, 9, 0}, {0, 0, -1, 0},
-            {0, 0, 0, 3}, {0, 0, 0, -1}, {3, 0, 9, 0}, {3, 0, 0, 3}, {8, 1, -1, 0}, {8, 2, 0, 0}};
-        for (int[] row : wrong) {
-            Check.due("crease out of range", mesh.crease(row[0], row[1], row[2], row[3]), Check.INVALID);
-        }
-        for (int far : Check.FAR) {
-            Check.due("far patch", mesh.crease(far, 0, 0, 0), Check.INVALID);
-            Check.due("far side", mesh.crease(0, far, 0, 0), Check.INVALID);
-            Check.due("far at", mesh.crease(0, 0, far, 0), Check.INVALID);
-            Check.due("far part", mesh.crease(0, 0, 0, far), Check.INVALID);
-        }
+        mesh.hold(1, 0, value, 0, 0);
+        return mesh.crease(0, 0, 0, 0);
     }
 
-    private static int creaseByColumns(ColourPatches mesh, int patch, int at, int part) {
-        if (patch % 4 == 3) {
-            return Check.NOT_FOUND;
-        }
-        int ahead = mesh.point(patch, 7, at, part);
-        int edge = mesh.point(patch, 8, at, part);
-        int behind = mesh.point(patch + 1, 1, at, part);
-        return Math.abs((ahead - edge) - (edge - behind));
+    /** At 7 and at 1 it is (128 * 22 + value * 490) / 512, rounded down. */
+    static void promise13CreaseHasNoSign() {
+        Check.due("a valley: 101, 100, 101", creaseAround(100), 2);
+        Check.due("a hill: 154, 156, 154", creaseAround(156), 4);
+        Check.due("neither", creaseAround(128), 0);
+        Check.due("the deepest valley: 5, 0, 5", creaseAround(0), 10);
+        Check.due("the highest hill: 249, 255, 249", creaseAround(255), 12);
     }
 
-    private static int creaseByRows(ColourPatches mesh, int patch, int at, int part) {
-        if (patch >= 8) {
-            return Check.NOT_FOUND;
-        }
-        int ahead = mesh.point(patch, at, 7, part);
-        int edge = mesh.point(patch, at, 8, part);
-        int behind = mesh.point(patch + 4, at, 1, part);
-        return Math.abs((ahead - edge) - (edge - behind));
-    }
+    // ---- promise 14
 
-    private static void level() {
+    /** Part 1 of patch 0 by u: 0, 10, 39, 80, 127, 174, 215, 244, 255, nine points each. */
+    private static ColourPatches byU() {
         ColourPatches mesh = new ColourPatches();
-        for (int which = 0; which < 4; which++) {
-            mesh.slope(which % 2, which / 2, 0, 1, 0);
-            mesh.slope(which % 2, which / 2, 1, 1, 0);
+        Look.flatten(mesh, 0, 0);
+        for (int v = 0; v <= 8; v += 8) {
+            Look.holdAt(mesh, 0, 0, v, 9, 0, 9);
+            Look.holdAt(mesh, 0, 8, v, 9, 255, 9);
         }
-        mesh.hold(0, 0, 9, 0, 9);
-        mesh.hold(0, 1, 9, 0, 9);
-        mesh.hold(1, 0, 9, 255, 9);
-        mesh.hold(1, 1, 9, 255, 9);
-        // Part 1 by u: 0, 10, 39, 80, 127, 174, 215, 244, 255, nine points each.
-        Check.due("all", mesh.level(0, 1, 0, 255), 81);
-        Check.due("both ends count", mesh.level(0, 1, 39, 80), 18);
-        Check.due("just inside", mesh.level(0, 1, 40, 79), 0);
-        Check.due("one number", mesh.level(0, 1, 255, 255), 9);
-        Check.due("low above high", mesh.level(0, 1, 80, 39), 0);
-        Check.due("any numbers", mesh.level(0, 1, Integer.MIN_VALUE, Integer.MAX_VALUE), 81);
-        Check.due("any numbers, the other way", mesh.level(0, 1, Integer.MAX_VALUE, Integer.MIN_VALUE), 0);
-        Check.due("below 0", mesh.level(0, 1, -5, -1), 0);
-        Check.due("another patch", mesh.level(11, 2, 128, 128), 81);
-        Check.due("patch 12", mesh.level(12, 0, 0, 0), Check.INVALID);
-        Check.due("patch -1", mesh.level(-1, 0, 0, 0), Check.INVALID);
-        Check.due("part 3", mesh.level(0, 3, 0, 0), Check.INVALID);
-        Check.due("part -1", mesh.level(0, -1, 5, 0), Check.INVALID);
-        for (int far : Check.FAR) {
-            Check.due("far patch", mesh.level(far, 0, 0, 0), Check.INVALID);
-            Check.due("far part", mesh.level(0, far, 0, 0), Check.INVALID);
-        }
+        return mesh;
     }
 
-    private static void nearest() {
-        ColourPatches mesh = new ColourPatches();
-        nearestDue(mesh, 0, 0, 0, 0, 0, 0);
-        nearestDue(mesh, 200, 200, 0, 8, 8, 0);
-        nearestDue(mesh, 400, 100, 1, 8, 4, 0);
-        nearestDue(mesh, 999, 999, 11, 8, 8, 199 * 199 + 399 * 399);
-        nearestDue(mesh, 999, 0, 3, 8, 0, 199 * 199);
-        // 612 is nearer to 600, on the edge of two patches, and 613 to 625; rows likewise.
-        nearestDue(mesh, 612, 413, 10, 8, 1, 144 + 144);
-        nearestDue(mesh, 613, 412, 7, 1, 8, 144 + 144);
-        nearestDue(mesh, 613, 413, 11, 1, 1, 144 + 144);
-        // Two points as near: first the lowest v, then the lowest u.
-        ColourPatches narrow = new ColourPatches();
-        for (int row = 0; row < 4; row++) {
-            for (int column = 0; column < 5; column++) {
-                narrow.move(column, row, 2 * column * 8, 2 * row * 8);
-            }
-        }
-        nearestDue(narrow, 3, 3, 0, 1, 1, 2);
-        nearestDue(narrow, 21, 3, 1, 2, 1, 2);
-        // All points in one place: the lowest of all.
-        for (int row = 0; row < 4; row++) {
-            for (int column = 0; column < 5; column++) {
-                narrow.move(column, row, 0, 999);
-            }
-        }
-        nearestDue(narrow, 999, 0, 0, 0, 0, 2 * 999 * 999);
-        int[][] wrong = {{-1, 0, 0}, {1000, 0, 0}, {0, -1, 0}, {0, 1000, 0}, {0, 0, -1}, {0, 0, 4}};
-        for (int[] row : wrong) {
-            Check.due("nearest out of range", mesh.nearest(row[0], row[1], row[2]), Check.INVALID);
-        }
-        for (int far : Check.FAR) {
-            Check.due("far x", mesh.nearest(far, 0, 0), Check.INVALID);
-            Check.due("far y", mesh.nearest(0, far, 0), Check.INVALID);
-            Check.due("far what", mesh.nearest(0, 0, far), Check.INVALID);
-        }
+    static void promise14LevelOfAll() {
+        Check.due("0 to 255", byU().level(0, 1, 0, 255), 81);
+        Check.due("another patch", byU().level(11, 2, 128, 128), 81);
     }
 
-    private static void nearestDue(ColourPatches mesh, int x, int y, int patch, int u, int v, int sum) {
+    static void promise14LevelOfNone() {
+        Check.due("between two", byU().level(0, 1, 40, 79), 0);
+        Check.due("below 0", byU().level(0, 1, -5, -1), 0);
+        Check.due("above 255", byU().level(0, 1, 256, 300), 0);
+    }
+
+    static void promise14LevelTakesLowItself() {
+        Check.due("at 39", byU().level(0, 1, 39, 79), 9);
+        Check.due("above 39", byU().level(0, 1, 40, 80), 9);
+        Check.due("0", byU().level(0, 1, 0, 9), 9);
+        Check.due("above 0", byU().level(0, 1, 1, 255), 72);
+    }
+
+    static void promise14LevelTakesHighItself() {
+        Check.due("at 80", byU().level(0, 1, 39, 80), 18);
+        Check.due("below 80", byU().level(0, 1, 39, 79), 9);
+        Check.due("255", byU().level(0, 1, 245, 255), 9);
+        Check.due("below 255", byU().level(0, 1, 0, 254), 72);
+    }
+
+    static void promise14LevelOfLowAndHighInOne() {
+        Check.due("127", byU().level(0, 1, 127, 127), 9);
+        Check.due("128", byU().level(0, 1, 128, 128), 0);
+        Check.due("0", byU().level(0, 1, 0, 0), 9);
+        Check.due("255", byU().level(0, 1, 255, 255), 9);
+    }
+
+    static void promise14LevelWithLowAboveHighIs0() {
+        Check.due("by one", byU().level(0, 1, 128, 127), 0);
+        Check.due("by one, at a point", byU().level(0, 1, 127, 126), 0);
+        Check.due("by all", byU().level(0, 1, 255, 0), 0);
+        Check.due("by most", byU().level(0, 1, Integer.MAX_VALUE, Integer.MIN_VALUE), 0);
+    }
+
+    static void promise14LevelTakesAnyNumbers() {
+        Check.due("both", byU().level(0, 1, Integer.MIN_VALUE, Integer.MAX_VALUE), 81);
+        Check.due("the least alone", byU().level(0, 1, Integer.MIN_VALUE, Integer.MIN_VALUE), 0);
+        Check.due("the greatest alone", byU().level(0, 1, Integer.MAX_VALUE, Integer.MAX_VALUE), 0);
+        Check.due("up to 10", byU().level(0, 1, Integer.MIN_VALUE, 10), 18);
+        Check.due("from 244", byU().level(0, 1, 244, Integer.MAX_VALUE), 18);
+    }
+
+    static void promise14LevelRefusesWithLowAboveHigh() {
+        Check.due("patch", byU().level(12, 1, 9, 0), Check.INVALID);
+        Check.due("patch", byU().level(-1, 1, 9, 0), Check.INVALID);
+        Check.due("part", byU().level(0, 3, 9, 0), Check.INVALID);
+        Check.due("part", byU().level(0, -1, 9, 0), Check.INVALID);
+    }
+
+    // ---- promise 15
+
+    private static void nearest(ColourPatches mesh, int x, int y, int patch, int u, int v, int sum) {
         String call = "nearest(" + x + ", " + y + ", ";
         Check.due(call + "0)", mesh.nearest(x, y, 0), patch);
         Check.due(call + "1)", mesh.nearest(x, y, 1), u);
@@ -161,68 +215,168 @@ public final class EdgesTest {
         Check.due(call + "3)", mesh.nearest(x, y, 3), sum);
     }
 
-    private static void calm() {
+    private static ColourPatches allAt(int x, int y) {
         ColourPatches mesh = new ColourPatches();
-        Check.due("an even mesh", mesh.calm(), 0);
-        // The corners of even sum lie beside those of odd sum alone: they change places for ever.
-        for (int row = 0; row < 4; row++) {
-            for (int column = 0; column < 5; column++) {
-                int value = (column + row) % 2 == 0 ? 0 : 200;
-                mesh.hold(column, row, value, value, value);
-            }
+        for (int corner = 0; corner < 20; corner++) {
+            mesh.move(corner % 5, corner / 5, x, y);
         }
-        Check.due("all are held", mesh.calm(), 0);
-        for (int row = 0; row < 4; row++) {
-            for (int column = 0; column < 5; column++) {
-                mesh.free(column, row);
-            }
-        }
-        String before = Check.state(mesh);
-        Check.due("never calm", mesh.calm(), Check.NOT_FOUND);
-        Check.same("calm", Check.state(mesh), before);
-        // One that is free among held ones is calm behind one round.
-        ColourPatches one = new ColourPatches();
-        for (int row = 0; row < 4; row++) {
-            for (int column = 0; column < 5; column++) {
-                one.hold(column, row, 10, 20, 30);
-            }
-        }
-        one.hold(2, 2, 0, 0, 0);
-        one.free(2, 2);
-        int states = one.count(3);
-        Check.due("one round", one.calm(), 1);
-        Check.due("calm is no change", one.count(3), states);
-        Check.due("its colour stays", one.cornerOf(2, 2, 2), 0);
-        one.spread(1);
-        Check.due("calm then", one.calm(), 0);
-        calmBySpreading();
-        // Found by trying: these two come to rest behind 40 and behind 41 rounds.
-        Check.due("calm at 40", heldAtBothEnds(1, 205).calm(), 40);
-        Check.due("calm at 41", heldAtBothEnds(1, 215).calm(), Check.NOT_FOUND);
-        Check.due("behind 40", stillChanging(heldAtBothEnds(1, 205), 40), 0);
-        Check.due("behind 41, not behind 40", stillChanging(heldAtBothEnds(1, 215), 40), 1);
-        Check.due("behind 41", stillChanging(heldAtBothEnds(1, 215), 41), 0);
-    }
-
-    private static ColourPatches heldAtBothEnds(int first, int last) {
-        ColourPatches mesh = new ColourPatches();
-        mesh.hold(0, 0, first, 128, 128);
-        mesh.hold(4, 3, last, 128, 128);
         return mesh;
     }
 
+    static void promise15NearestAtThePlaceOfAPointIs0Away() {
+        nearest(new ColourPatches(), 0, 0, 0, 0, 0, 0);
+        nearest(new ColourPatches(), 25, 50, 0, 1, 2, 0);
+        nearest(new ColourPatches(), 800, 600, 11, 8, 8, 0);
+    }
+
+    static void promise15NearestAtTheFourEndsOfThePlane() {
+        nearest(new ColourPatches(), 999, 0, 3, 8, 0, 199 * 199);
+        nearest(new ColourPatches(), 0, 999, 8, 0, 8, 399 * 399);
+        nearest(new ColourPatches(), 999, 999, 11, 8, 8, 199 * 199 + 399 * 399);
+    }
+
+    static void promise15NearestAtTheGreatestDistance() {
+        nearest(allAt(0, 999), 999, 0, 0, 0, 0, 2 * 999 * 999);
+        nearest(allAt(999, 999), 0, 0, 0, 0, 0, 2 * 999 * 999);
+        nearest(allAt(0, 0), 999, 999, 0, 0, 0, 2 * 999 * 999);
+    }
+
+    static void promise15NearestOfAllInOnePlaceIsTheLowestOfAll() {
+        nearest(allAt(400, 300), 400, 300, 0, 0, 0, 0);
+        nearest(allAt(400, 300), 401, 300, 0, 0, 0, 1);
+    }
+
+    static void promise15NearestOnAnEdgeIsOfTheLowestPatch() {
+        nearest(new ColourPatches(), 200, 100, 0, 8, 4, 0);
+        nearest(new ColourPatches(), 100, 200, 0, 4, 8, 0);
+        nearest(new ColourPatches(), 600, 500, 10, 8, 4, 0);
+        nearest(new ColourPatches(), 500, 400, 6, 4, 8, 0);
+    }
+
+    static void promise15NearestAtACornerOfFourPatchesIsOfTheLowest() {
+        nearest(new ColourPatches(), 200, 200, 0, 8, 8, 0);
+        nearest(new ColourPatches(), 600, 400, 6, 8, 8, 0);
+    }
+
+    /** Corner (1, 1) is the last point of patch 0 and the first one of patch 5. */
+    static void promise15NearestIsOfTheLowestPatchAheadOfTheLowestV() {
+        ColourPatches mesh = allAt(0, 0);
+        mesh.move(1, 1, 20, 0);
+        nearest(mesh, 20, 0, 0, 8, 8, 0);
+    }
+
+    /** The x of a point of patch 0 is 10 times the sum of u and v, its y is 0. */
+    private static void bySum(ColourPatches mesh) {
+        Look.place(mesh, 0, new int[][] {{0, 0}, {80, 0}, {160, 0}, {80, 0}});
+    }
+
+    static void promise15NearestIsOfTheLowestVAheadOfTheLowestU() {
+        nearest(Look.behind(EdgesTest::bySum), 10, 0, 0, 1, 0, 0);
+        nearest(Look.behind(EdgesTest::bySum), 40, 0, 0, 4, 0, 0);
+        nearest(Look.behind(EdgesTest::bySum), 72, 0, 0, 7, 0, 4);
+    }
+
+    /** All points of one v are in one place, 10 times v. */
+    static void promise15NearestIsOfTheLowestUOfOneV() {
+        ColourPatches mesh = new ColourPatches();
+        Look.place(mesh, 0, new int[][] {{0, 0}, {0, 0}, {80, 0}, {80, 0}});
+        nearest(mesh, 20, 0, 0, 0, 2, 0);
+        nearest(mesh, 31, 1, 0, 0, 3, 2);
+    }
+
+    /** Of four points as near as each other. */
+    static void promise15NearestAmidFourPointsIsTheLowest() {
+        ColourPatches mesh = new ColourPatches();
+        for (int corner = 0; corner < 20; corner++) {
+            mesh.move(corner % 5, corner / 5, 16 * (corner % 5), 16 * (corner / 5));
+        }
+        nearest(mesh, 3, 3, 0, 1, 1, 2);
+        nearest(mesh, 21, 3, 1, 2, 1, 2);
+    }
+
+    /** 612 is nearer to 600, on the edge of two patches, and 613 is nearer to 625; by rows likewise. */
+    static void promise15NearestOnEachSideOfTheMiddle() {
+        nearest(new ColourPatches(), 612, 413, 10, 8, 1, 144 + 144);
+        nearest(new ColourPatches(), 613, 412, 7, 1, 8, 144 + 144);
+        nearest(new ColourPatches(), 613, 413, 11, 1, 1, 144 + 144);
+        nearest(new ColourPatches(), 612, 412, 6, 8, 8, 144 + 144);
+    }
+
+    // ---- promise 16
+
+    static void promise16CalmOfAnEvenMeshIs0() {
+        Check.due("calm", new ColourPatches().calm(), 0);
+    }
+
+    static void promise16CalmWithAllHeldIs0() {
+        ColourPatches mesh = new ColourPatches();
+        for (int corner = 0; corner < 20; corner++) {
+            mesh.hold(corner % 5, corner / 5, 12 * corner, 5 * corner, 255 - corner);
+        }
+        Check.due("calm", mesh.calm(), 0);
+    }
+
+    static void promise16CalmBehindOneRoundIs1() {
+        for (int part = 0; part <= 2; part++) {
+            ColourPatches mesh = new ColourPatches();
+            Look.holdAll(mesh, 10, 10, 10);
+            mesh.hold(2, 2, part == 0 ? 0 : 10, part == 1 ? 0 : 10, part == 2 ? 0 : 10);
+            mesh.free(2, 2);
+            Check.due("calm by part " + part, mesh.calm(), 1);
+            mesh.spread(1);
+            Check.due("calm behind that round", mesh.calm(), 0);
+        }
+    }
+
+    private static Consumer<ColourPatches> heldAtBothEnds(int last) {
+        return mesh -> {
+            mesh.hold(0, 0, 1, 128, 128);
+            mesh.hold(4, 3, last, 128, 128);
+        };
+    }
+
     /** 1 if one more round behind so many changes something, otherwise 0. */
-    private static int stillChanging(ColourPatches mesh, int rounds) {
+    private static int stillChanging(int last, int rounds) {
+        ColourPatches mesh = Look.behind(heldAtBothEnds(last));
         for (int round = 0; round < rounds; round++) {
             mesh.spread(1);
         }
         return mesh.spread(1) > 0 ? 1 : 0;
     }
 
-    /** Rounds done one by one agree with what calm says, for meshes on both sides of 40. */
-    private static void calmBySpreading() {
-        int below = 0;
-        int above = 0;
+    /** Found by trying, and shown by spreading so many rounds. */
+    static void promise16CalmBehind40RoundsIs40() {
+        Check.due("round 40 changes something", stillChanging(205, 39), 1);
+        Check.due("round 41 changes nothing", stillChanging(205, 40), 0);
+        Check.due("calm", Look.behind(heldAtBothEnds(205)).calm(), 40);
+    }
+
+    static void promise16CalmBehind41RoundsIsNotFound() {
+        Check.due("round 41 changes something", stillChanging(215, 40), 1);
+        Check.due("round 42 changes nothing", stillChanging(215, 41), 0);
+        Check.due("calm", Look.behind(heldAtBothEnds(215)).calm(), Check.NOT_FOUND);
+    }
+
+    static void promise16CalmBehind41RoundsIsFoundBehindOneOfThem() {
+        ColourPatches mesh = Look.behind(heldAtBothEnds(215));
+        mesh.spread(1);
+        Check.due("calm", mesh.calm(), 40);
+    }
+
+    /** The corners of an even sum have those of an odd one beside them alone: they change for ever. */
+    static void promise16NeverCalmIsNotFound() {
+        ColourPatches mesh = new ColourPatches();
+        for (int corner = 0; corner < 20; corner++) {
+            mesh.hold(corner % 5, corner / 5, (corner % 5 + corner / 5) % 2 * 200, 0, 0);
+        }
+        Look.freeAll(mesh);
+        Check.due("calm", mesh.calm(), Check.NOT_FOUND);
+        Check.due("the colour stays", mesh.cornerOf(1, 0, 2), 200);
+    }
+
+    /** For meshes on both sides of 40, calm is what spreading round by round finds. */
+    static void promise16CalmIsWhatSpreadingFinds() {
+        int later = 0;
         for (int value = 0; value <= 255; value++) {
             ColourPatches mesh = new ColourPatches();
             mesh.hold(0, 0, value, 128, 128);
@@ -235,12 +389,8 @@ public final class EdgesTest {
                 rounds++;
             }
             Check.due("calm for " + value, said, rounds > 40 ? Check.NOT_FOUND : rounds);
-            if (rounds > 40) {
-                above++;
-            } else {
-                below++;
-            }
+            later += rounds > 40 ? 1 : 0;
         }
-        System.out.println("calm behind up to 40 rounds: " + below + ", later or never: " + above);
+        Check.that("some are later than 40: " + later, later > 0 && later < 256);
     }
 }

@@ -4,55 +4,75 @@ import java.nio.file.Files;
 import java.nio.file.Path;
 import java.util.ArrayDeque;
 import java.util.Deque;
+import java.util.HashSet;
+import java.util.Set;
 import java.util.regex.Matcher;
 import java.util.regex.Pattern;
 
 /** Rules of LANGUAGE.md that can be seen in the source of the class. Runs in the project's directory. */
 public final class LanguageTest {
-    /** Calls on names that are not the file's own, as far as rule 4 allows and the file uses them. */
-    private static final Pattern LIBRARY = Pattern.compile("\\b(Math\\.(abs|max|min|floorDiv|floorMod)|System\\.arraycopy)\\(");
+    /** Types of the library that rules 3 and 4 name. */
+    private static final Set<String> LIBRARY = Set.of("String", "StringBuilder", "Integer", "Long", "Math", "ArrayList", "List",
+            "Iterator", "Iterable", "Comparable", "System", "Arrays", "Override");
 
     public static void main(String[] args) throws IOException {
         String source = Files.readString(Path.of("src/main/java/ColourPatches.java"), StandardCharsets.ISO_8859_1);
-        Check.that("the source has signs 1 to 127 alone", source.chars().allMatch(sign -> sign > 0 && sign < 128));
-        String code = withoutComments(source);
-        words(code);
-        library(code);
-        methodLengths(code);
-        parameters(code);
+        String code = source.replaceAll("(?s)/\\*.*?\\*/", "").replaceAll("//[^\n]*", "");
+        constants(code);
+        // A sign or a text is no code.
+        String bare = code.replaceAll("'(\\\\.|[^'\\\\])+'", "' '").replaceAll("\"(\\\\.|[^\"\\\\])*\"", "\"\"");
+        words(bare);
+        library(bare);
+        methodLengths(bare);
+        parameters(bare);
         Check.end();
-    }
-
-    private static String withoutComments(String source) {
-        return source.replaceAll("(?s)/\\*.*?\\*/", "").replaceAll("//[^\n]*", "");
     }
 
     private static void absent(String code, String what, String pattern) {
         Matcher found = Pattern.compile(pattern).matcher(code);
-        Check.that(what + (found.find() ? ": " + found.group() : ""), !Pattern.compile(pattern).matcher(code).find());
+        boolean there = found.find();
+        Check.that(what + (there ? ": " + found.group() : ""), !there);
+    }
+
+    private static void constants(String code) {
+        Check.begin("rule 4");
+        Check.that("the code has signs 1 to 127 alone", code.chars().allMatch(sign -> sign > 0 && sign < 128));
     }
 
     private static void words(String code) {
-        absent(code, "rule 6", "\\b(throw|throws|try|catch|finally|synchronized|assert|instanceof)\\b");
-        absent(code, "rule 3, 4: import, package", "\\b(import|package)\\b");
-        absent(code, "rule 2: lambda, method reference", "->|::");
-        absent(code, "rule 3: float, double", "\\b(float|double|Float|Double|Object)\\b");
-        absent(code, "rule 5: static state", "\\bstatic\\s+(?!final\\b)[\\w\\[\\]]+\\s+\\w+\\s*(=|;)");
+        Check.begin("words");
+        absent(code, "rule 6: exceptions and the like", "\\b(throw|throws|try|catch|finally|synchronized|assert)\\b");
+        absent(code, "rule 6: of own objects", "\\b(boolean\\s+equals|int\\s+hashCode|String\\s+toString)\\s*\\(");
+        absent(code, "the file: package", "\\bpackage\\s+\\w");
+        absent(code, "rule 4: import", "\\bimport\\s+(?!java\\.util\\.(ArrayList|List|Iterator|Arrays)\\s*;)");
+        absent(code, "rule 2: method reference", "::");
+        absent(code, "rule 2: lambda", "(?m)^(?!\\s*(case|default)\\b).*->");
+        absent(code, "rule 5: static state", "\\bstatic\\s+(?!final\\b|class\\b|record\\b|enum\\b|interface\\b)[\\w\\[\\]<>]+\\s+\\w+\\s*(=|;)");
         absent(code, "rule 5: static block", "\\bstatic\\s*\\{");
-        absent(code, "rule 6: equals, hashCode, toString", "\\b(equals|hashCode|toString)\\b");
-        absent(code, "rule 9: a loop without an end of its own", "\\bwhile\\b|for\\s*\\(\\s*;");
+        absent(code, "rule 9: a loop without an end", "\\bwhile\\s*\\(\\s*true\\s*\\)|\\bfor\\s*\\([^;]*;\\s*;");
         absent(code, "rule 10: texts by +", "\"\\s*\\+|\\+\\s*\"");
     }
 
-    /** Big first letters before a dot stand for the library: only those of rule 4 may be there. */
+    /** Names with small letters that begin with a big one are the file's own, or those of rules 3 and 4. */
     private static void library(String code) {
-        Matcher dotted = Pattern.compile("\\b[A-Z]\\w*\\.\\w+\\(?").matcher(code);
-        while (dotted.find()) {
-            Check.that("rule 4: " + dotted.group(), LIBRARY.matcher(dotted.group()).matches());
+        Check.begin("rule 4");
+        Set<String> own = new HashSet<>();
+        Matcher declared = Pattern.compile("\\b(?:class|interface|enum|record)\\s+(\\w+)").matcher(code);
+        while (declared.find()) {
+            own.add(declared.group(1));
         }
+        Matcher named = Pattern.compile("\\b[A-Z]\\w*[a-z]\\w*\\b").matcher(code);
+        while (named.find()) {
+            Check.that(named.group(), own.contains(named.group()) || LIBRARY.contains(named.group()));
+        }
+        absent(code, "a function of Math", "\\bMath\\.(?!(abs|max|min|floorDiv|floorMod)\\s*\\()");
+        absent(code, "a function of System", "\\bSystem\\.(?!arraycopy\\s*\\()");
+        absent(code, "a function of Arrays", "\\bArrays\\.(?!(copyOf|copyOfRange|fill)\\s*\\()");
+        absent(code, "a function that throws", "\\.(\\w+Exact|parse\\w+)\\s*\\(");
     }
 
     private static void methodLengths(String code) {
+        Check.begin("rule 11");
         String[] lines = code.split("\n");
         Deque<Integer> opened = new ArrayDeque<>();
         for (int at = 0; at < lines.length; at++) {
@@ -61,17 +81,18 @@ public final class LanguageTest {
                     opened.push(at);
                 } else if (sign == '}') {
                     int from = opened.pop();
-                    boolean isMethod = lines[from].contains("(") && !lines[from].trim().startsWith("for");
-                    Check.that("rule 11: a long method at " + lines[from].trim(), !isMethod || at - from <= 60);
+                    boolean isMethod = lines[from].contains("(");
+                    Check.that("a long method at " + lines[from].trim(), !isMethod || at - from <= 70);
                 }
             }
         }
     }
 
     private static void parameters(String code) {
+        Check.begin("rule 11");
         Matcher list = Pattern.compile("\\(([^()]*)\\)\\s*\\{").matcher(code);
         while (list.find()) {
-            Check.that("rule 11: parameters " + list.group(1), list.group(1).split(",").length <= 7);
+            Check.that("parameters " + list.group(1), list.group(1).split(",").length <= 7);
         }
     }
 }

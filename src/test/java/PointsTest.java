@@ -1,111 +1,236 @@
 /** Promises 8 to 11: cornerOf, point, patchOf, count. */
 public final class PointsTest {
-    public static void main(String[] args) {
-        cornerOf();
-        pointColours();
-        pointHeldBetween();
-        pointPlaces();
-        pointErrors();
-        patchOf();
-        folded();
-        smallestPatch();
-        area();
-        count();
-        Check.end();
+    /** A, B, C and D of the document for 0 to 8, worked out by hand. */
+    private static final int[] A = {512, 490, 432, 350, 256, 162, 80, 22, 0};
+    private static final int[] B = {0, 22, 80, 162, 256, 350, 432, 490, 512};
+    private static final int[] C = {0, 49, 72, 75, 64, 45, 24, 7, 0};
+    private static final int[] D = {0, -7, -24, -45, -64, -75, -72, -49, 0};
+
+    public static void main(String[] args) throws IllegalAccessException {
+        Cases.run(PointsTest.class);
     }
 
-    private static void cornerOf() {
+    // ---- promise 8
+
+    static void promise08CornerOfTellsEachOfThirteen() {
         ColourPatches mesh = new ColourPatches();
         mesh.move(3, 2, 601, 402);
         mesh.hold(3, 2, 11, 12, 13);
-        for (int along = 0; along <= 1; along++) {
-            for (int part = 0; part <= 2; part++) {
-                Check.due("told", mesh.cornerOf(3, 2, 12), along * 3 + part);
-                mesh.slope(3, 2, along, part, 20 + along * 3 + part);
-            }
+        for (int which = 0; which < 6; which++) {
+            mesh.slope(3, 2, which / 3, which % 3, 20 + which);
         }
         int[] want = {601, 402, 11, 12, 13, 1, 20, 21, 22, 23, 24, 25, 6};
         for (int what = 0; what <= 12; what++) {
             Check.due("cornerOf(3, 2, " + what + ")", mesh.cornerOf(3, 2, what), want[what]);
         }
-        Check.due("what 13", mesh.cornerOf(0, 0, 13), Check.INVALID);
-        Check.due("what -1", mesh.cornerOf(0, 0, -1), Check.INVALID);
-        Check.due("column 5", mesh.cornerOf(5, 0, 0), Check.INVALID);
-        Check.due("column -1", mesh.cornerOf(-1, 1, 0), Check.INVALID);
-        Check.due("row 4", mesh.cornerOf(0, 4, 0), Check.INVALID);
-        Check.due("row -1", mesh.cornerOf(0, -1, 0), Check.INVALID);
-        for (int far : Check.FAR) {
-            Check.due("far column", mesh.cornerOf(far, 0, 0), Check.INVALID);
-            Check.due("far row", mesh.cornerOf(0, far, 0), Check.INVALID);
-            Check.due("far what", mesh.cornerOf(0, 0, far), Check.INVALID);
-        }
     }
 
-    /** A mesh whose slopes around patch 0 are told to be 0, so that A and B alone count. */
-    private static ColourPatches flatMesh() {
+    static void promise08CornerOfFirstAndLastCorner() {
         ColourPatches mesh = new ColourPatches();
-        for (int which = 0; which < 4; which++) {
-            for (int along = 0; along <= 1; along++) {
-                mesh.slope(which % 2, which / 2, along, 0, 0);
-            }
+        mesh.move(0, 0, 1, 2);
+        mesh.move(4, 3, 998, 997);
+        mesh.hold(4, 3, 3, 4, 5);
+        Check.due("x of the first", mesh.cornerOf(0, 0, 0), 1);
+        Check.due("y of the first", mesh.cornerOf(0, 0, 1), 2);
+        Check.due("held of the first", mesh.cornerOf(0, 0, 5), 0);
+        Check.due("x of the last", mesh.cornerOf(4, 3, 0), 998);
+        Check.due("y of the last", mesh.cornerOf(4, 3, 1), 997);
+        Check.due("held of the last", mesh.cornerOf(4, 3, 5), 1);
+    }
+
+    static void promise08SlopesToldAreCountedFrom0To6() {
+        ColourPatches mesh = new ColourPatches();
+        for (int which = 0; which < 6; which++) {
+            Check.due("told", mesh.cornerOf(1, 3, 12), which);
+            mesh.slope(1, 3, which / 3, which % 3, 0);
+        }
+        Check.due("all told", mesh.cornerOf(1, 3, 12), 6);
+    }
+
+    /** Along row 2 part 0 is 0, 100, 51, 255, 254, part 1 is 255 less that, part 2 is part 0 the other way around. */
+    private static ColourPatches bent() {
+        ColourPatches mesh = new ColourPatches();
+        int[] values = {0, 100, 51, 255, 254};
+        for (int column = 0; column < 5; column++) {
+            mesh.hold(column, 2, values[column], 255 - values[column], values[4 - column]);
         }
         return mesh;
     }
 
-    private static void pointColours() {
-        ColourPatches mesh = flatMesh();
-        mesh.hold(0, 0, 0, 0, 0);
-        mesh.hold(0, 1, 0, 0, 0);
-        mesh.hold(1, 0, 255, 0, 0);
-        mesh.hold(1, 1, 255, 0, 0);
-        // 255 * B(u) / 512, B = 0, 22, 80, 162, 256, 350, 432, 490, 512.
-        int[] want = {0, 10, 39, 80, 127, 174, 215, 244, 255};
-        for (int u = 0; u <= 8; u++) {
-            for (int v = 0; v <= 8; v++) {
-                Check.due("point(0, " + u + ", " + v + ", 0)", mesh.point(0, u, v, 0), want[u]);
+    static void promise08SlopesNotToldAlongTheRow() {
+        int[][] want = {{100, -100, 1}, {25, -26, -102}, {77, -78, -78}, {101, -102, -26}, {-1, 1, -100}};
+        for (int column = 0; column < 5; column++) {
+            for (int part = 0; part < 3; part++) {
+                Check.due("column " + column + ", part " + part, bent().cornerOf(column, 2, 6 + part), want[column][part]);
             }
         }
-        // One more slope along the row at (0, 0): 100 * C(u) / 512 at v 0, C(4) = 64, C(2) = 72.
-        mesh.slope(0, 0, 0, 0, 100);
-        Check.due("C(4)", mesh.point(0, 4, 0, 0), (255 * 256 + 100 * 64) / 512);
-        Check.due("C(2)", mesh.point(0, 2, 0, 0), (255 * 80 + 100 * 72) / 512);
-        Check.due("C(2) Q(4)", mesh.point(0, 2, 4, 0), (255 * 80 * 512 + 100 * 72 * 256) / 262144);
-        Check.due("nothing at v 8", mesh.point(0, 2, 8, 0), 39);
-        // And along the column at (1, 1): P(u) = B(u), S(v) = D(v), D(6) = -72.
-        mesh.slope(1, 1, 1, 0, 200);
-        Check.due("D(6)", mesh.point(0, 8, 6, 0), (255 * 512 - 200 * 72) / 512);
-        Check.due("D(6) B(4)", mesh.point(0, 4, 6, 0),
-                (255 * 256 * 512 + 100 * 64 * 80 - 200 * 72 * 256) / 262144);
-        // The corners of a patch have their points.
-        mesh.hold(2, 2, 1, 2, 3);
-        Check.due("corner of patch 6", mesh.point(6, 0, 8, 1), 2);
-        Check.due("corner of patch 5", mesh.point(5, 8, 8, 2), 3);
-        Check.due("corner of patch 1", mesh.point(1, 8, 8, 0), 128);
-        Check.due("corner of patch 9", mesh.point(9, 8, 0, 0), 1);
-        mesh.hold(4, 3, 77, 78, 79);
-        Check.due("last corner", mesh.point(11, 8, 8, 0), 77);
     }
 
-    private static void pointHeldBetween() {
-        ColourPatches mesh = flatMesh();
-        for (int which = 0; which < 4; which++) {
-            mesh.hold(which % 2, which / 2, 255, 255, 255);
+    /** The rows of column 0 are 128, 128, (0, 255, 254), 128. */
+    static void promise08SlopesNotToldAlongTheColumn() {
+        int[][] want = {{0, 0, 0}, {-64, 63, 63}, {0, 0, 0}, {128, -127, -126}};
+        for (int row = 0; row < 4; row++) {
+            for (int part = 0; part < 3; part++) {
+                Check.due("row " + row + ", part " + part, bent().cornerOf(0, row, 9 + part), want[row][part]);
+            }
         }
-        mesh.slope(0, 0, 0, 0, 255);
-        Check.due("not above 255", mesh.point(0, 4, 0, 0), 255);
-        mesh.slope(0, 0, 0, 0, -1);
-        Check.due("rounded down", mesh.point(0, 4, 0, 0), 254);
-        for (int which = 0; which < 4; which++) {
-            mesh.hold(which % 2, which / 2, 0, 0, 0);
-        }
-        Check.due("not below 0", mesh.point(0, 4, 0, 0), 0);
-        mesh.slope(0, 0, 0, 0, -255);
-        Check.due("far below 0", mesh.point(0, 3, 0, 0), 0);
     }
 
-    private static void pointPlaces() {
-        ColourPatches mesh = new ColourPatches();
+    // ---- promise 9
+
+    static void promise09PointsAtTheCornersAreTheCorners() {
         for (int patch = 0; patch < 12; patch++) {
+            ColourPatches mesh = new ColourPatches();
+            Look.place(mesh, patch, new int[][] {{11, 12}, {985, 14}, {977, 988}, {19, 999}});
+            Look.holdAt(mesh, patch, 0, 0, 0, 1, 2);
+            Look.holdAt(mesh, patch, 8, 0, 255, 254, 253);
+            Look.holdAt(mesh, patch, 8, 8, 30, 40, 50);
+            Look.holdAt(mesh, patch, 0, 8, 60, 70, 80);
+            due(mesh, patch, 0, 0, 0, 1, 2, 11, 12);
+            due(mesh, patch, 8, 0, 255, 254, 253, 985, 14);
+            due(mesh, patch, 8, 8, 30, 40, 50, 977, 988);
+            due(mesh, patch, 0, 8, 60, 70, 80, 19, 999);
+        }
+    }
+
+    private static void due(ColourPatches mesh, int patch, int u, int v, int... want) {
+        for (int what = 0; what <= 4; what++) {
+            Check.due("point(" + patch + ", " + u + ", " + v + ", " + what + ")", mesh.point(patch, u, v, what), want[what]);
+        }
+    }
+
+    /** A patch whose slopes are told to be 0, with part 0 of its corners. */
+    private static ColourPatches flat(int patch, int first, int byColumn, int byBoth, int byRow) {
+        ColourPatches mesh = new ColourPatches();
+        Look.flatten(mesh, patch, 0);
+        Look.holdAt(mesh, patch, 0, 0, first, 0, 0);
+        Look.holdAt(mesh, patch, 8, 0, byColumn, 0, 0);
+        Look.holdAt(mesh, patch, 8, 8, byBoth, 0, 0);
+        Look.holdAt(mesh, patch, 0, 8, byRow, 0, 0);
+        return mesh;
+    }
+
+    static void promise09ColoursByPartsAloneAlongU() {
+        ColourPatches mesh = flat(0, 0, 255, 255, 0);
+        for (int u = 0; u <= 8; u++) {
+            for (int v = 0; v <= 8; v++) {
+                Check.due("u " + u + ", v " + v, mesh.point(0, u, v, 0), 255 * B[u] / 512);
+            }
+        }
+    }
+
+    static void promise09ColoursByPartsAloneAlongV() {
+        ColourPatches mesh = flat(11, 255, 255, 0, 0);
+        for (int u = 0; u <= 8; u++) {
+            for (int v = 0; v <= 8; v++) {
+                Check.due("u " + u + ", v " + v, mesh.point(11, u, v, 0), 255 * A[v] / 512);
+            }
+        }
+    }
+
+    static void promise09ColoursByOneCornerAlone() {
+        for (int u = 0; u <= 8; u++) {
+            for (int v = 0; v <= 8; v++) {
+                Check.due("(0, 0)", flat(5, 255, 0, 0, 0).point(5, u, v, 0), 255 * A[u] * A[v] / 262144);
+                Check.due("(8, 0)", flat(5, 0, 255, 0, 0).point(5, u, v, 0), 255 * B[u] * A[v] / 262144);
+                Check.due("(8, 8)", flat(5, 0, 0, 255, 0).point(5, u, v, 0), 255 * B[u] * B[v] / 262144);
+                Check.due("(0, 8)", flat(5, 0, 0, 0, 255).point(5, u, v, 0), 255 * A[u] * B[v] / 262144);
+            }
+        }
+    }
+
+    private static ColourPatches sloped(int column, int row, int along, int slope) {
+        ColourPatches mesh = flat(0, 100, 100, 100, 100);
+        mesh.slope(column, row, along, 0, slope);
+        return mesh;
+    }
+
+    static void promise09ColoursBySlopesAlongTheRow() {
+        for (int u = 0; u <= 8; u++) {
+            for (int v = 0; v <= 8; v++) {
+                sum(sloped(0, 0, 0, 200), u, v, 200 * C[u] * A[v]);
+                sum(sloped(1, 0, 0, 200), u, v, 200 * D[u] * A[v]);
+                sum(sloped(1, 1, 0, 200), u, v, 200 * D[u] * B[v]);
+                sum(sloped(0, 1, 0, 200), u, v, 200 * C[u] * B[v]);
+            }
+        }
+    }
+
+    static void promise09ColoursBySlopesAlongTheColumn() {
+        for (int u = 0; u <= 8; u++) {
+            for (int v = 0; v <= 8; v++) {
+                sum(sloped(0, 0, 1, -200), u, v, -200 * A[u] * C[v]);
+                sum(sloped(1, 0, 1, -200), u, v, -200 * B[u] * C[v]);
+                sum(sloped(1, 1, 1, -200), u, v, -200 * B[u] * D[v]);
+                sum(sloped(0, 1, 1, -200), u, v, -200 * A[u] * D[v]);
+            }
+        }
+    }
+
+    private static void sum(ColourPatches mesh, int u, int v, int bySlope) {
+        Check.due("u " + u + ", v " + v, mesh.point(0, u, v, 0), Math.floorDiv(100 * 262144 + bySlope, 262144));
+    }
+
+    /** At (4, 0) a slope of 255 at (0, 0) adds 255 * 64 / 512, which is 31. */
+    static void promise09ColoursAbove255Are255() {
+        ColourPatches mesh = flat(0, 255, 255, 255, 255);
+        mesh.slope(0, 0, 0, 0, 255);
+        Check.due("far above", mesh.point(0, 4, 0, 0), 255);
+        mesh.slope(0, 0, 0, 0, 8);
+        Check.due("256", mesh.point(0, 4, 0, 0), 255);
+        mesh.slope(0, 0, 0, 0, -8);
+        Check.due("254", mesh.point(0, 4, 0, 0), 254);
+    }
+
+    static void promise09ColoursOf255AreNotLowered() {
+        ColourPatches mesh = flat(0, 254, 254, 254, 254);
+        mesh.slope(0, 0, 0, 0, 8);
+        Check.due("255", mesh.point(0, 4, 0, 0), 255);
+        mesh.slope(0, 0, 0, 0, 16);
+        Check.due("256", mesh.point(0, 4, 0, 0), 255);
+    }
+
+    static void promise09ColoursBelow0Are0() {
+        ColourPatches mesh = flat(0, 0, 0, 0, 0);
+        mesh.slope(0, 0, 0, 0, -255);
+        Check.due("far below", mesh.point(0, 4, 0, 0), 0);
+        mesh.slope(0, 0, 0, 0, -8);
+        Check.due("-1", mesh.point(0, 4, 0, 0), 0);
+        mesh.slope(0, 0, 0, 0, 8);
+        Check.due("1", mesh.point(0, 4, 0, 0), 1);
+    }
+
+    static void promise09ColoursOf0AreNotRaised() {
+        ColourPatches mesh = flat(0, 1, 1, 1, 1);
+        mesh.slope(0, 0, 0, 0, -8);
+        Check.due("0", mesh.point(0, 4, 0, 0), 0);
+        mesh.slope(0, 0, 0, 0, -16);
+        Check.due("-1", mesh.point(0, 4, 0, 0), 0);
+    }
+
+    static void promise09ColoursAreRoundedDown() {
+        ColourPatches mesh = flat(0, 100, 100, 100, 100);
+        mesh.slope(0, 0, 0, 0, 7);
+        Check.due("a bit below 101", mesh.point(0, 4, 0, 0), 100);
+        mesh.slope(0, 0, 0, 0, -1);
+        Check.due("a bit below 100", mesh.point(0, 4, 0, 0), 99);
+        mesh.slope(0, 0, 0, 0, -8);
+        Check.due("99", mesh.point(0, 4, 0, 0), 99);
+        mesh.slope(0, 0, 0, 0, -9);
+        Check.due("a bit below 99", mesh.point(0, 4, 0, 0), 98);
+    }
+
+    static void promise09ColoursTellEachPart() {
+        ColourPatches mesh = new ColourPatches();
+        Look.holdAll(mesh, 1, 2, 3);
+        for (int part = 0; part <= 2; part++) {
+            Check.due("part " + part, mesh.point(6, 3, 5, part), 1 + part);
+        }
+    }
+
+    static void promise09PlacesOfANewMesh() {
+        for (int patch = 0; patch < 12; patch++) {
+            ColourPatches mesh = new ColourPatches();
             for (int u = 0; u <= 8; u++) {
                 for (int v = 0; v <= 8; v++) {
                     Check.due("x", mesh.point(patch, u, v, 3), 200 * (patch % 4) + 25 * u);
@@ -113,136 +238,290 @@ public final class PointsTest {
                 }
             }
         }
-        mesh.move(1, 1, 201, 333);
-        Check.due("rounded down", mesh.point(0, 7, 7, 3), (200 * 7 * 1 + 201 * 49) / 64);
-        Check.due("y", mesh.point(0, 7, 3, 4), (200 * 1 * 3 + 333 * 7 * 3) / 64);
-        Check.due("y of the patch beside", mesh.point(1, 1, 8, 4), (333 * 7 + 200) / 8);
     }
 
-    private static void pointErrors() {
+    static void promise09PlacesAreRoundedDown() {
         ColourPatches mesh = new ColourPatches();
-        int[][] wrong = {{-1, 0, 0, 0}, {12, 0, 0, 0}, {0, -1, 0, 0}, {0, 9, 0, 0}, {0, 0, -1, 0}, {0, 0, 9, 0},
-            {0, 0, 0, -1}, {0, 0, 0, 5}};
-        for (int[] row : wrong) {
-            Check.due("point out of range", mesh.point(row[0], row[1], row[2], row[3]), Check.INVALID);
-        }
-        for (int far : Check.FAR) {
-            Check.due("far patch", mesh.point(far, 0, 0, 0), Check.INVALID);
-            Check.due("far u", mesh.point(0, far, 0, 0), Check.INVALID);
-            Check.due("far v", mesh.point(0, 0, far, 0), Check.INVALID);
-            Check.due("far what", mesh.point(0, 0, 0, far), Check.INVALID);
-        }
+        Look.place(mesh, 0, new int[][] {{0, 0}, {0, 0}, {1, 999}, {0, 0}});
+        Check.due("x of 64 / 64", mesh.point(0, 8, 8, 3), 1);
+        Check.due("x of 56 / 64", mesh.point(0, 7, 8, 3), 0);
+        Check.due("x of 56 / 64", mesh.point(0, 8, 7, 3), 0);
+        Check.due("y of 999 * 56 / 64", mesh.point(0, 7, 8, 4), 874);
+        Check.due("y of 999 / 64", mesh.point(0, 1, 1, 4), 15);
+        Check.due("y of 0", mesh.point(0, 0, 1, 4), 0);
     }
 
-    private static void patchOf() {
-        ColourPatches mesh = flatMesh();
-        Check.due("one colour", mesh.patchOf(0, 1), 1);
-        Check.due("greatest sum", mesh.patchOf(0, 2), 384);
-        Check.due("least sum", mesh.patchOf(0, 3), 384);
-        Check.due("held", mesh.patchOf(0, 4), 0);
-        Check.due("area", mesh.patchOf(0, 5), 80000);
-        mesh.hold(0, 0, 0, 128, 128);
-        mesh.hold(0, 1, 0, 128, 128);
-        mesh.hold(1, 0, 255, 128, 128);
-        Check.due("held", mesh.patchOf(0, 4), 3);
-        mesh.hold(1, 1, 255, 128, 128);
-        // By u alone: nine colours, from 0 to 255 in part 0.
-        Check.due("nine colours", mesh.patchOf(0, 1), 9);
-        Check.due("greatest sum", mesh.patchOf(0, 2), 511);
-        Check.due("least sum", mesh.patchOf(0, 3), 256);
-        Check.due("held", mesh.patchOf(0, 4), 4);
-        Check.due("held of the patch beside", mesh.patchOf(1, 4), 2);
-        Check.due("held of the patch below", mesh.patchOf(4, 4), 2);
-        Check.due("held of the patch across", mesh.patchOf(5, 4), 1);
-        Check.due("held of another patch", mesh.patchOf(6, 4), 0);
-        int[][] wrong = {{-1, 0}, {12, 0}, {0, -1}, {0, 6}};
-        for (int[] row : wrong) {
-            Check.due("patchOf out of range", mesh.patchOf(row[0], row[1]), Check.INVALID);
-        }
-        for (int far : Check.FAR) {
-            Check.due("far patch", mesh.patchOf(far, 0), Check.INVALID);
-            Check.due("far what", mesh.patchOf(0, far), Check.INVALID);
-        }
-    }
-
-    /** Each of the four corners pushed inward over the diagonal folds the patch; on it, too. */
-    private static void folded() {
-        int[][] inward = {{0, 0, 150, 150}, {1, 0, 50, 150}, {1, 1, 50, 50}, {0, 1, 150, 50}};
-        int[][] onLine = {{0, 0, 100, 100}, {1, 0, 100, 100}, {1, 1, 100, 100}, {0, 1, 100, 100}};
-        int[][] outside = {{0, 0, 99, 100}, {1, 0, 101, 100}, {1, 1, 101, 100}, {0, 1, 99, 100}};
-        for (int at = 0; at < 4; at++) {
-            Check.due("inward " + at, movedFold(inward[at]), 1);
-            Check.due("on the line " + at, movedFold(onLine[at]), 1);
-            Check.due("outside " + at, movedFold(outside[at]), 0);
-        }
-    }
-
-    /** The least turn above 0 is 1. */
-    private static void smallestPatch() {
-        ColourPatches mesh = new ColourPatches();
-        mesh.move(1, 0, 1, 0);
-        mesh.move(1, 1, 1, 1);
-        mesh.move(0, 1, 0, 1);
-        Check.due("the smallest patch", mesh.patchOf(0, 0), 0);
-        Check.due("its area", mesh.patchOf(0, 5), 2);
-        mesh.move(0, 1, 0, 0);
-        Check.due("two corners in one place", mesh.patchOf(0, 0), 1);
-    }
-
-    private static int movedFold(int[] row) {
-        ColourPatches mesh = new ColourPatches();
-        mesh.move(row[0], row[1], row[2], row[3]);
-        return mesh.patchOf(0, 0);
-    }
-
-    private static void area() {
-        ColourPatches mesh = new ColourPatches();
-        mesh.move(0, 0, 10, 20);
-        mesh.move(1, 0, 310, 0);
-        mesh.move(1, 1, 300, 250);
-        mesh.move(0, 1, 0, 200);
-        // 10*0 - 310*20, 310*250 - 300*0, 300*200 - 0*250, 0*20 - 10*200
-        Check.due("area", mesh.patchOf(0, 5), -6200 + 77500 + 60000 - 2000);
-        // Mirrored: gone around the other way, the sign falls away.
-        mesh.move(0, 0, 310, 0);
-        mesh.move(1, 0, 10, 20);
-        mesh.move(1, 1, 0, 200);
-        mesh.move(0, 1, 300, 250);
-        Check.due("area mirrored", mesh.patchOf(0, 5), 129300);
-        Check.due("mirrored is folded", mesh.patchOf(0, 0), 1);
-    }
-
-    private static void count() {
-        ColourPatches mesh = new ColourPatches();
-        mesh.hold(0, 0, 1, 1, 1);
-        mesh.hold(1, 0, 1, 1, 1);
-        mesh.hold(2, 0, 1, 2, 1);
-        Check.due("unlike colours", mesh.count(6), 3);
-        mesh.hold(3, 0, 1, 1, 2);
-        Check.due("unlike colours", mesh.count(6), 4);
-        mesh.free(0, 0);
-        Check.due("held", mesh.count(0), 3);
-        mesh.move(1, 1, 0, 0);
-        Check.due("folded", mesh.count(1), 3);
-        mesh.slope(0, 0, 0, 0, 0);
-        mesh.slope(4, 3, 1, 2, 0);
-        Check.due("told", mesh.count(2), 2);
-        Check.due("states, four at most", mesh.count(3), 4);
-        Check.write(mesh, "abc");
-        Check.due("text", mesh.count(4), 3);
-        mesh.keep();
-        Check.due("snapshot", mesh.count(5), 1);
-        for (int row = 0; row < 4; row++) {
-            for (int column = 0; column < 5; column++) {
-                mesh.hold(column, row, column, row, 0);
+    static void promise09PlacesByOneCornerAlone() {
+        int[][] corners = {{0, 0}, {8, 0}, {8, 8}, {0, 8}};
+        for (int which = 0; which < 4; which++) {
+            ColourPatches mesh = new ColourPatches();
+            int[][] places = {{0, 0}, {0, 0}, {0, 0}, {0, 0}};
+            places[which] = new int[] {999, 640};
+            Look.place(mesh, 6, places);
+            for (int u = 0; u <= 8; u++) {
+                for (int v = 0; v <= 8; v++) {
+                    int weight = (8 - Math.abs(u - corners[which][0])) * (8 - Math.abs(v - corners[which][1]));
+                    Check.due("x", mesh.point(6, u, v, 3), 999 * weight / 64);
+                    Check.due("y", mesh.point(6, u, v, 4), 10 * weight);
+                }
             }
         }
-        Check.due("unlike colours, all", mesh.count(6), 20);
-        Check.due("held, all", mesh.count(0), 20);
-        Check.due("count(7)", mesh.count(7), Check.INVALID);
-        Check.due("count(-1)", mesh.count(-1), Check.INVALID);
-        for (int far : Check.FAR) {
-            Check.due("far what", mesh.count(far), Check.INVALID);
+    }
+
+    // ---- promise 10
+
+    /** Corners as they are gone around: the turn at the third one is 1, 0 or -1, the others are above 1. */
+    private static final int[][] TURN_OF_1 = {{0, 0}, {3, 0}, {2, 1}, {0, 2}};
+    private static final int[][] TURN_OF_0 = {{0, 0}, {2, 0}, {1, 1}, {0, 2}};
+    private static final int[][] TURN_BELOW_0 = {{0, 0}, {3, 0}, {1, 1}, {0, 2}};
+
+    /** 1 if patch 5 is folded, when that turn is at its corner of this number, as they are gone around. */
+    private static int folded(int[][] places, int corner) {
+        int[][] turned = new int[4][];
+        for (int which = 0; which < 4; which++) {
+            turned[(which + corner + 2) % 4] = places[which];
         }
+        ColourPatches mesh = new ColourPatches();
+        Look.place(mesh, 5, turned);
+        return mesh.patchOf(5, 0);
+    }
+
+    static void promise10ATurnOf1AtEachCornerIsNotFolded() {
+        for (int corner = 0; corner < 4; corner++) {
+            Check.due("corner " + corner, folded(TURN_OF_1, corner), 0);
+        }
+    }
+
+    static void promise10ATurnOf0AtEachCornerIsFolded() {
+        for (int corner = 0; corner < 4; corner++) {
+            Check.due("corner " + corner, folded(TURN_OF_0, corner), 1);
+        }
+    }
+
+    static void promise10ATurnBelow0AtEachCornerIsFolded() {
+        for (int corner = 0; corner < 4; corner++) {
+            Check.due("corner " + corner, folded(TURN_BELOW_0, corner), 1);
+        }
+    }
+
+    static void promise10TheSmallestPatchIsNotFolded() {
+        ColourPatches mesh = new ColourPatches();
+        Look.place(mesh, 0, new int[][] {{0, 0}, {1, 0}, {1, 1}, {0, 1}});
+        Check.due("folded", mesh.patchOf(0, 0), 0);
+        Check.due("area", mesh.patchOf(0, 5), 2);
+    }
+
+    static void promise10TheGreatestPatchIsNotFolded() {
+        ColourPatches mesh = new ColourPatches();
+        Look.place(mesh, 0, new int[][] {{0, 0}, {999, 0}, {999, 999}, {0, 999}});
+        Check.due("folded", mesh.patchOf(0, 0), 0);
+        Check.due("area", mesh.patchOf(0, 5), 2 * 999 * 999);
+    }
+
+    static void promise10APatchGoneAroundTheOtherWayIsFoldedAndItsAreaHasNoSign() {
+        ColourPatches mesh = new ColourPatches();
+        Look.place(mesh, 0, new int[][] {{0, 0}, {0, 999}, {999, 999}, {999, 0}});
+        Check.due("folded", mesh.patchOf(0, 0), 1);
+        Check.due("area", mesh.patchOf(0, 5), 2 * 999 * 999);
+    }
+
+    static void promise10TwoCornersInOnePlaceAreFolded() {
+        ColourPatches mesh = new ColourPatches();
+        Look.place(mesh, 0, new int[][] {{0, 0}, {1, 0}, {1, 1}, {0, 0}});
+        Check.due("folded", mesh.patchOf(0, 0), 1);
+        Check.due("area", mesh.patchOf(0, 5), 1);
+    }
+
+    static void promise10AllCornersInOnePlaceHaveNoArea() {
+        ColourPatches mesh = new ColourPatches();
+        Look.place(mesh, 0, new int[][] {{5, 6}, {5, 6}, {5, 6}, {5, 6}});
+        Check.due("folded", mesh.patchOf(0, 0), 1);
+        Check.due("area", mesh.patchOf(0, 5), 0);
+    }
+
+    static void promise10APatchThatCrossesItselfHasNoAreaLeft() {
+        ColourPatches mesh = new ColourPatches();
+        Look.place(mesh, 0, new int[][] {{0, 0}, {100, 100}, {100, 0}, {0, 100}});
+        Check.due("folded", mesh.patchOf(0, 0), 1);
+        Check.due("area", mesh.patchOf(0, 5), 0);
+    }
+
+    static void promise10AreaOfAnUnevenPatch() {
+        ColourPatches mesh = new ColourPatches();
+        Look.place(mesh, 0, new int[][] {{10, 20}, {310, 0}, {300, 250}, {0, 200}});
+        // 10 * 0 - 310 * 20, 310 * 250 - 300 * 0, 300 * 200 - 0 * 250, 0 * 20 - 10 * 200
+        Check.due("area", mesh.patchOf(0, 5), -6200 + 77500 + 60000 - 2000);
+    }
+
+    static void promise10OneColour() {
+        ColourPatches mesh = new ColourPatches();
+        for (int patch = 0; patch < 12; patch++) {
+            Check.due("patch " + patch, mesh.patchOf(patch, 1), 1);
+        }
+    }
+
+    static void promise10EightyOneUnlikeColours() {
+        ColourPatches mesh = new ColourPatches();
+        Look.flatten(mesh, 0, 0);
+        Look.holdAt(mesh, 0, 0, 0, 0, 7, 0);
+        Look.holdAt(mesh, 0, 8, 0, 255, 7, 0);
+        Look.holdAt(mesh, 0, 8, 8, 255, 7, 255);
+        Look.holdAt(mesh, 0, 0, 8, 0, 7, 255);
+        Check.due("unlike colours", mesh.patchOf(0, 1), 81);
+    }
+
+    /** The sum of parts 0 and 1 is 254 or 255 everywhere, the colours are nine. */
+    static void promise10ColoursOfOneSumAreUnlike() {
+        ColourPatches mesh = new ColourPatches();
+        Look.flatten(mesh, 0, 0);
+        for (int v = 0; v <= 8; v += 8) {
+            Look.holdAt(mesh, 0, 0, v, 0, 255, 0);
+            Look.holdAt(mesh, 0, 8, v, 255, 0, 0);
+        }
+        Check.due("unlike colours", mesh.patchOf(0, 1), 9);
+        Check.due("greatest sum", mesh.patchOf(0, 2), 255);
+        Check.due("least sum", mesh.patchOf(0, 3), 254);
+    }
+
+    static void promise10ColoursUnlikeInEachSinglePart() {
+        for (int part = 0; part <= 2; part++) {
+            ColourPatches mesh = new ColourPatches();
+            Look.flatten(mesh, 0, 0);
+            for (int v = 0; v <= 8; v += 8) {
+                Look.holdAt(mesh, 0, 0, v, 0, 0, 0);
+                Look.holdAt(mesh, 0, 8, v, part == 0 ? 255 : 0, part == 1 ? 255 : 0, part == 2 ? 255 : 0);
+            }
+            Check.due("part " + part, mesh.patchOf(0, 1), 9);
+        }
+    }
+
+    static void promise10LeastSumIs0() {
+        ColourPatches mesh = new ColourPatches();
+        Look.holdAll(mesh, 0, 0, 0);
+        Check.due("least", mesh.patchOf(11, 3), 0);
+        Check.due("greatest", mesh.patchOf(11, 2), 0);
+    }
+
+    static void promise10GreatestSumIs765() {
+        ColourPatches mesh = new ColourPatches();
+        Look.holdAll(mesh, 255, 255, 255);
+        Check.due("greatest", mesh.patchOf(0, 2), 765);
+        Check.due("least", mesh.patchOf(0, 3), 765);
+    }
+
+    /** At each of the four corners, the first and the last point included. */
+    static void promise10GreatestAndLeastSumAtEachCorner() {
+        for (int corner = 0; corner < 4; corner++) {
+            ColourPatches mesh = new ColourPatches();
+            Look.flatten(mesh, 6, 0);
+            Look.holdAt(mesh, 6, corner % 2 * 8, corner / 2 * 8, 200, 201, 202);
+            Check.due("greatest", mesh.patchOf(6, 2), 603);
+            Check.due("least", mesh.patchOf(6, 3), 384);
+            mesh.hold(2 + corner % 2, 1 + corner / 2, 3, 4, 5);
+            Check.due("greatest", mesh.patchOf(6, 2), 384);
+            Check.due("least", mesh.patchOf(6, 3), 12);
+        }
+    }
+
+    static void promise10HeldCornersFrom0To4() {
+        ColourPatches mesh = new ColourPatches();
+        int[][] corners = {{1, 1}, {2, 1}, {1, 2}, {2, 2}};
+        for (int held = 0; held < 4; held++) {
+            Check.due("held", mesh.patchOf(5, 4), held);
+            mesh.hold(corners[held][0], corners[held][1], 1, 2, 3);
+        }
+        Check.due("all held", mesh.patchOf(5, 4), 4);
+        Check.due("the patch beside", mesh.patchOf(6, 4), 2);
+        Check.due("the patch below", mesh.patchOf(9, 4), 2);
+        Check.due("the patch across", mesh.patchOf(10, 4), 1);
+        Check.due("a patch away", mesh.patchOf(7, 4), 0);
+        Check.due("another patch away", mesh.patchOf(11, 4), 0);
+    }
+
+    // ---- promise 11
+
+    static void promise11HeldCornersFrom0To20() {
+        ColourPatches mesh = new ColourPatches();
+        Check.due("none", mesh.count(0), 0);
+        Look.holdAll(mesh, 1, 1, 1);
+        Check.due("all", mesh.count(0), 20);
+        Look.freeAll(mesh);
+        Check.due("none again", mesh.count(0), 0);
+    }
+
+    static void promise11FoldedPatchesFrom0To12() {
+        ColourPatches mesh = new ColourPatches();
+        Check.due("none", mesh.count(1), 0);
+        mesh.move(1, 1, 0, 0);
+        Check.due("three", mesh.count(1), 3);
+        for (int corner = 0; corner < 20; corner++) {
+            mesh.move(corner % 5, corner / 5, 7, 7);
+        }
+        Check.due("all", mesh.count(1), 12);
+    }
+
+    static void promise11ToldSlopesFrom0To120() {
+        ColourPatches mesh = new ColourPatches();
+        for (int which = 0; which < 120; which++) {
+            Check.due("told", mesh.count(2), which);
+            mesh.slope(which / 6 % 5, which / 30, which / 3 % 2, which % 3, 0);
+        }
+        Check.due("all told", mesh.count(2), 120);
+    }
+
+    static void promise11StatesFrom0To4() {
+        ColourPatches mesh = new ColourPatches();
+        for (int changes = 0; changes <= 9; changes++) {
+            Check.due("behind " + changes, mesh.count(3), Math.min(changes, 4));
+            mesh.move(0, 0, changes, changes);
+        }
+    }
+
+    static void promise11LengthOfTheTextFrom0To60() {
+        ColourPatches mesh = new ColourPatches();
+        for (int length = 0; length < 60; length++) {
+            Check.due("length", mesh.count(4), length);
+            mesh.type(32 + length);
+        }
+        Check.due("full", mesh.count(4), 60);
+        mesh.type(99);
+        Check.due("one sign more", mesh.count(4), 60);
+    }
+
+    static void promise11SnapshotIs0Or1() {
+        ColourPatches mesh = new ColourPatches();
+        Check.due("none", mesh.count(5), 0);
+        mesh.keep();
+        Check.due("one", mesh.count(5), 1);
+        mesh.keep();
+        Check.due("another one in its place", mesh.count(5), 1);
+    }
+
+    static void promise11UnlikeColoursFrom1To20() {
+        ColourPatches mesh = new ColourPatches();
+        for (int corner = 0; corner < 20; corner++) {
+            mesh.hold(corner % 5, corner / 5, 128, 128, 128 - corner);
+            Check.due("unlike colours", mesh.count(6), corner + 1);
+        }
+    }
+
+    static void promise11UnlikeColoursInEachSinglePart() {
+        ColourPatches mesh = new ColourPatches();
+        mesh.hold(0, 0, 127, 128, 128);
+        Check.due("part 0", mesh.count(6), 2);
+        mesh.hold(4, 3, 128, 127, 128);
+        Check.due("part 1", mesh.count(6), 3);
+        mesh.hold(2, 2, 128, 128, 127);
+        Check.due("part 2", mesh.count(6), 4);
+        mesh.hold(1, 1, 127, 128, 128);
+        Check.due("as the first one", mesh.count(6), 4);
+    }
+
+    static void promise11UnlikeColoursDoNotAskWhetherHeld() {
+        ColourPatches mesh = new ColourPatches();
+        mesh.hold(0, 0, 1, 2, 3);
+        mesh.hold(1, 0, 1, 2, 3);
+        mesh.free(1, 0);
+        Check.due("unlike colours", mesh.count(6), 2);
     }
 }
