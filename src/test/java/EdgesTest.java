@@ -138,6 +138,18 @@ public final class EdgesTest {
         Check.due("the highest hill: 249, 255, 249", creaseAround(255), 12);
     }
 
+    /** Ahead it would be 279, or -24, which are 255 and 0; behind it is 230, or 24. */
+    static void promise13CreaseIsOfColoursFrom0To255() {
+        ColourPatches above = new ColourPatches();
+        Look.holdAll(above, 255, 255, 255);
+        above.slope(1, 0, 0, 0, -255);
+        Check.due("255, 255, 230", above.crease(0, 0, 0, 0), 25);
+        ColourPatches below = new ColourPatches();
+        Look.holdAll(below, 0, 0, 0);
+        below.slope(0, 1, 1, 2, 255);
+        Check.due("0, 0, 24", below.crease(0, 1, 0, 2), 24);
+    }
+
     // ---- promise 14
 
     /** Part 1 of patch 0 by u: 0, 10, 39, 80, 127, 174, 215, 244, 255, nine points each. */
@@ -154,6 +166,24 @@ public final class EdgesTest {
     static void promise14LevelOfAll() {
         Check.due("0 to 255", byU().level(0, 1, 0, 255), 81);
         Check.due("another patch", byU().level(11, 2, 128, 128), 81);
+    }
+
+    /** Part 0 is 255 at one corner, and falls to 0 both by u and by v. */
+    static void promise14LevelByBothUAndV() {
+        ColourPatches mesh = new ColourPatches();
+        Look.flatten(mesh, 6, 0);
+        for (int corner = 0; corner < 4; corner++) {
+            Look.holdAt(mesh, 6, corner % 2 * 8, corner / 2 * 8, corner == 0 ? 255 : 0, 0, 0);
+        }
+        int[] values = {512, 490, 432, 350, 256, 162, 80, 22, 0};
+        for (int low = 0; low <= 255; low += 15) {
+            int points = 0;
+            for (int at = 0; at < 81; at++) {
+                int part = 255 * values[at % 9] * values[at / 9] / 262144;
+                points += part >= low && part <= low + 20 ? 1 : 0;
+            }
+            Check.due("from " + low, mesh.level(6, 0, low, low + 20), points);
+        }
     }
 
     static void promise14LevelOfNone() {
@@ -274,6 +304,17 @@ public final class EdgesTest {
         nearest(Look.behind(EdgesTest::bySum), 10, 0, 0, 1, 0, 0);
         nearest(Look.behind(EdgesTest::bySum), 40, 0, 0, 4, 0, 0);
         nearest(Look.behind(EdgesTest::bySum), 72, 0, 0, 7, 0, 4);
+    }
+
+    /** The x of a point of patch 0 is 10 u + 5 v, its y is 5 u + 10 v. */
+    static void promise15NearestOfAPatchThatLeans() {
+        ColourPatches mesh = new ColourPatches();
+        Look.place(mesh, 0, new int[][] {{0, 0}, {80, 40}, {120, 120}, {40, 80}});
+        for (int u = 0; u <= 8; u += 2) {
+            for (int v = 0; v <= 8; v++) {
+                nearest(mesh, 10 * u + 5 * v, 5 * u + 10 * v, 0, u, v, 0);
+            }
+        }
     }
 
     /** All points of one v are in one place, 10 times v. */

@@ -24,6 +24,19 @@ public final class HistoryTest {
         mesh.move(4, 1, 0, 0);
     }
 
+    /** Every place, colour, held corner and slope is another one than in a new object: 160 changes. */
+    private static void everything(ColourPatches mesh) {
+        for (int corner = 0; corner < 20; corner++) {
+            int column = corner % 5;
+            int row = corner / 5;
+            mesh.hold(column, row, 3 * corner, 255 - corner, 200 - 2 * corner);
+            mesh.move(column, row, 200 * column + corner + 1, 200 * row + 50 - corner);
+            for (int which = 0; which < 6; which++) {
+                mesh.slope(column, row, which / 3, which % 3, 6 * corner + which - 60);
+            }
+        }
+    }
+
     /** The eight kinds of changes; each of them can be done behind the first four, a snapshot and a text. */
     private static List<Consumer<ColourPatches>> changes() {
         List<Consumer<ColourPatches>> all = new ArrayList<>();
@@ -148,6 +161,32 @@ public final class HistoryTest {
             mesh.hold(0, 0, 1, 1, 1);
             Check.due("restore again", mesh.restore(), 2);
         }, HistoryTest::first);
+    }
+
+    static void promise18RestoreOfEverything() {
+        Look.sameState("restored", mesh -> {
+            everything(mesh);
+            mesh.keep();
+            for (int corner = 0; corner < 20; corner++) {
+                mesh.loose(corner % 5, corner / 5);
+                mesh.free(corner % 5, corner / 5);
+                mesh.move(corner % 5, corner / 5, 5, 6);
+            }
+            mesh.spread(2);
+            Check.due("restore", mesh.restore(), 20);
+        }, HistoryTest::everything);
+    }
+
+    static void promise18RestoreOfEverythingOnceAndAgain() {
+        Look.sameState("restored", mesh -> {
+            everything(mesh);
+            mesh.keep();
+            mesh.restore();
+            mesh.spread(1);
+            mesh.free(0, 0);
+            mesh.loose(4, 3);
+            Check.due("restore again", mesh.restore(), 20);
+        }, HistoryTest::everything);
     }
 
     static void promise18RestoreTwiceAtOnce() {
@@ -341,6 +380,30 @@ public final class HistoryTest {
             Check.that("it changes", !Look.state(changed).equals(Look.state(ahead)));
             Check.due("states", Look.behind(changed).count(3), 4);
             Look.sameWhole("undone", changed.andThen(mesh -> Check.due("undo", mesh.undo(), 3)), ahead);
+        }
+    }
+
+    static void promise19UndoOfEverything() {
+        Look.sameState("undone", mesh -> {
+            mesh.keep();
+            everything(mesh);
+            mesh.restore();
+            Check.due("undo", mesh.undo(), 3);
+        }, HistoryTest::everything);
+    }
+
+    static void promise19EachChangeWithAFullHistoryDropsTheOldest() {
+        for (Consumer<ColourPatches> change : changes()) {
+            Look.sameState("undone four times", mesh -> {
+                first(mesh);
+                mesh.keep();
+                Look.write(mesh, TEXT);
+                change.accept(mesh);
+                for (int left = 3; left >= 0; left--) {
+                    Check.due("undo", mesh.undo(), left);
+                }
+                Check.due("undo", mesh.undo(), Check.NOT_POSSIBLE);
+            }, mesh -> mesh.hold(1, 2, 10, 20, 30));
         }
     }
 

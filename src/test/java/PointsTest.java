@@ -220,6 +220,14 @@ public final class PointsTest {
         Check.due("a bit below 99", mesh.point(0, 4, 0, 0), 98);
     }
 
+    /** The sums are 4 less than 16, 10 and 116 times 262144, and 10 times it. */
+    static void promise09ColoursJustBelowAWholeOneAreRoundedDown() {
+        Check.due("below 16", flat(0, 0, 126, 180, 255).point(0, 1, 1, 0), 15);
+        Check.due("below 10", flat(0, 5, 24, 174, 100).point(0, 1, 1, 0), 9);
+        Check.due("below 116", flat(6, 0, 26, 153, 50).point(6, 5, 7, 0), 115);
+        Check.due("10", flat(0, 10, 9, 255, 0).point(0, 1, 1, 0), 10);
+    }
+
     static void promise09ColoursTellEachPart() {
         ColourPatches mesh = new ColourPatches();
         Look.holdAll(mesh, 1, 2, 3);
@@ -249,6 +257,17 @@ public final class PointsTest {
         Check.due("y of 999 * 56 / 64", mesh.point(0, 7, 8, 4), 874);
         Check.due("y of 999 / 64", mesh.point(0, 1, 1, 4), 15);
         Check.due("y of 0", mesh.point(0, 0, 1, 4), 0);
+    }
+
+    /** At (1, 1) the corners count 49, 7, 1 and 7 times. */
+    static void promise09PlacesJustBelowAWholeOneAreRoundedDown() {
+        ColourPatches mesh = new ColourPatches();
+        Look.place(mesh, 0, new int[][] {{0, 1}, {4, 1}, {0, 7}, {5, 0}});
+        Check.due("x of 63 / 64", mesh.point(0, 1, 1, 3), 0);
+        Check.due("y of 63 / 64", mesh.point(0, 1, 1, 4), 0);
+        Look.place(mesh, 0, new int[][] {{0, 1}, {4, 1}, {1, 8}, {5, 0}});
+        Check.due("x of 64 / 64", mesh.point(0, 1, 1, 3), 1);
+        Check.due("y of 64 / 64", mesh.point(0, 1, 1, 4), 1);
     }
 
     static void promise09PlacesByOneCornerAlone() {
@@ -423,6 +442,18 @@ public final class PointsTest {
         }
     }
 
+    /** By a slope at (0, 0) the greatest and the least sum are at (1, 0) alone, or at (0, 1) alone. */
+    static void promise10GreatestAndLeastSumBesideACorner() {
+        for (int along = 0; along <= 1; along++) {
+            ColourPatches hill = flat(0, 100, 0, 0, 0);
+            hill.slope(0, 0, along, 0, 100);
+            Check.due("greatest", hill.patchOf(0, 2), (100 * B[7] + 100 * C[1]) / 512);
+            ColourPatches valley = flat(0, 155, 255, 255, 255);
+            valley.slope(0, 0, along, 0, -100);
+            Check.due("least", valley.patchOf(0, 3), (155 * A[1] + 255 * B[1] - 100 * C[1]) / 512);
+        }
+    }
+
     static void promise10HeldCornersFrom0To4() {
         ColourPatches mesh = new ColourPatches();
         int[][] corners = {{1, 1}, {2, 1}, {1, 2}, {2, 2}};
@@ -515,6 +546,20 @@ public final class PointsTest {
         Check.due("part 2", mesh.count(6), 4);
         mesh.hold(1, 1, 127, 128, 128);
         Check.due("as the first one", mesh.count(6), 4);
+    }
+
+    /** Each colour is a power of two in one of its parts. */
+    static void promise11UnlikeColoursOfNeighbouringParts() {
+        ColourPatches mesh = new ColourPatches();
+        Look.holdAll(mesh, 0, 0, 0);
+        for (int power = 0; power < 8; power++) {
+            mesh.hold(power % 5, power / 5, 1 << power, 0, 0);
+            mesh.hold((8 + power) % 5, (8 + power) / 5, 0, 1 << power, 0);
+        }
+        mesh.hold(1, 3, 0, 0, 1);
+        mesh.hold(2, 3, 0, 0, 2);
+        mesh.hold(3, 3, 0, 0, 128);
+        Check.due("unlike colours", mesh.count(6), 20);
     }
 
     static void promise11UnlikeColoursDoNotAskWhetherHeld() {
