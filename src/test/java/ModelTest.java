@@ -19,6 +19,7 @@ public final class ModelTest {
     private static final int CALLS = 512;
 
     public static void main(String[] args) {
+        Check.begin("model");
         Map<String, Set<Integer>> answers = new HashMap<>();
         for (int run = 0; run < RUNS; run++) {
             Numbers numbers = new Numbers(run);
