@@ -5,16 +5,17 @@ import java.util.TreeMap;
 
 /**
  * Runs the cases of a test: its static methods whose names begin with "promise" and its number, in
- * the order of their names. The name of a case tells the promise and the case.
+ * the order of their names. The name of a case tells the promise and the case. With arguments, only
+ * the cases whose names begin with one of them.
  */
 final class Cases {
     private Cases() {
     }
 
-    static void run(Class<?> test) throws IllegalAccessException {
+    static void run(Class<?> test, String... beginnings) throws IllegalAccessException {
         Map<String, Method> cases = new TreeMap<>();
         for (Method method : test.getDeclaredMethods()) {
-            if (method.getName().startsWith("promise")) {
+            if (method.getName().startsWith("promise") && isAsked(method.getName(), beginnings)) {
                 cases.put(method.getName(), method);
             }
         }
@@ -30,5 +31,13 @@ final class Cases {
         Check.that("there are cases", !cases.isEmpty());
         System.out.println(cases.size() + " cases");
         Check.end();
+    }
+
+    private static boolean isAsked(String name, String[] beginnings) {
+        boolean asked = beginnings.length == 0;
+        for (String beginning : beginnings) {
+            asked |= name.startsWith(beginning);
+        }
+        return asked;
     }
 }

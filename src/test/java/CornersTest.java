@@ -1,7 +1,7 @@
 /** Promises 1 to 7: a new object, hold, free, move, slope, loose, spread. */
 public final class CornersTest {
     public static void main(String[] args) throws IllegalAccessException {
-        Cases.run(CornersTest.class);
+        Cases.run(CornersTest.class, args);
     }
 
     // ---- promise 1
@@ -22,6 +22,15 @@ public final class CornersTest {
             }
         }
         Check.due("unlike colours", mesh.count(6), 1);
+    }
+
+    static void promise01NewPointsAreAllOfOneColour() {
+        ColourPatches mesh = new ColourPatches();
+        for (int patch = 0; patch < 12; patch++) {
+            for (int part = 0; part <= 2; part++) {
+                Check.due("patch " + patch + ", part " + part, mesh.level(patch, part, 128, 128), 81);
+            }
+        }
     }
 
     static void promise01NewCornersAreNotHeld() {
@@ -296,6 +305,20 @@ public final class CornersTest {
         Check.due(alongAColumn().slope(2, 3, 1, 2, 0), 3 - 81);
     }
 
+    /** Every slope of a mesh of uneven colours, worked out from the parts beside. */
+    static void promise05SlopesNotToldOfEveryCorner() {
+        ColourPatches mesh = Look.behind(Look::colourAll);
+        for (int which = 0; which < 120; which++) {
+            int column = which / 6 % 5;
+            int row = which / 30;
+            int along = which / 3 % 2;
+            int part = which % 3;
+            int want = Look.slopeOfColourAll(column, row, along, part);
+            Check.due("slope(" + column + ", " + row + ", " + along + ", " + part + ")",
+                    mesh.slope(column, row, along, part, 1), want);
+        }
+    }
+
     static void promise05SlopeInsideIsHalfRoundedDown() {
         Check.due("column 1, 11 / 2", alongARow().slope(1, 1, 0, 0, 0), 5);
         Check.due("column 2, 165 / 2", alongARow().slope(2, 1, 0, 0, 0), 82);
@@ -530,6 +553,53 @@ public final class CornersTest {
         Check.due("one is 0", oneFreeAmong(1, 2, 100, 0, 2, 2).cornerOf(1, 2, 4), 75);
         Check.due("one is 0", oneFreeAmong(3, 2, 100, 0, 3, 1).cornerOf(3, 2, 4), 75);
         Check.due("across is not beside", oneFreeAmong(3, 2, 100, 0, 2, 1).cornerOf(3, 2, 4), 100);
+    }
+
+    /** All are 0 but one, which is 240: each other one is 240 by so many as are beside it, or 0. */
+    static void promise07BesideAreThoseOneColumnOrOneRowAway() {
+        for (int lit = 0; lit < 20; lit++) {
+            ColourPatches mesh = new ColourPatches();
+            Look.holdAll(mesh, 0, 0, 0);
+            Look.freeAll(mesh);
+            mesh.hold(lit % 5, lit / 5, 240, 0, 0);
+            mesh.spread(1);
+            for (int corner = 0; corner < 20; corner++) {
+                int away = Math.abs(corner % 5 - lit % 5) + Math.abs(corner / 5 - lit / 5);
+                int beside = 4 - (corner % 5 % 4 == 0 ? 1 : 0) - (corner / 5 % 3 == 0 ? 1 : 0);
+                int want = away == 0 ? 240 : away == 1 ? 240 / beside : 0;
+                Check.due("corner " + corner + " by " + lit, mesh.cornerOf(corner % 5, corner / 5, 2), want);
+            }
+        }
+    }
+
+    /** Every third corner is held; the others have the sum of the parts beside, divided and rounded down. */
+    static void promise07SpreadOfAnUnevenMesh() {
+        ColourPatches mesh = Look.behind(Look::colourAll);
+        for (int corner = 0; corner < 20; corner++) {
+            if (corner % 3 != 0) {
+                mesh.free(corner % 5, corner / 5);
+            }
+        }
+        Check.due("spread", mesh.spread(1), 13);
+        for (int which = 0; which < 60; which++) {
+            int column = which / 3 % 5;
+            int row = which / 15;
+            int part = which % 3;
+            int want = which / 3 % 3 == 0 ? Look.partOfColourAll(column, row, part) : meanBeside(column, row, part);
+            Check.due("part " + part + " of " + column + ", " + row, mesh.cornerOf(column, row, 2 + part), want);
+        }
+    }
+
+    private static int meanBeside(int column, int row, int part) {
+        int sum = 0;
+        int beside = 0;
+        for (int other = 0; other < 20; other++) {
+            if (Math.abs(other % 5 - column) + Math.abs(other / 5 - row) == 1) {
+                sum += Look.partOfColourAll(other % 5, other / 5, part);
+                beside++;
+            }
+        }
+        return Math.floorDiv(sum, beside);
     }
 
     static void promise07SpreadTakesTheColoursAheadOfTheRound() {

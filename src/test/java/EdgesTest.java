@@ -3,7 +3,7 @@ import java.util.function.Consumer;
 /** Promises 12 to 16: agrees, crease, level, nearest, calm. */
 public final class EdgesTest {
     public static void main(String[] args) throws IllegalAccessException {
-        Cases.run(EdgesTest.class);
+        Cases.run(EdgesTest.class, args);
     }
 
     private static void uneven(ColourPatches mesh) {
@@ -42,6 +42,30 @@ public final class EdgesTest {
         ColourPatches mesh = Look.behind(EdgesTest::uneven);
         for (int patch = 0; patch <= 7; patch++) {
             Check.due("patch " + patch, mesh.agrees(patch, 1), 1);
+        }
+    }
+
+    /** 54 looks at points for each of the edges. */
+    static void promise12AgreesIsWhatThePointsOfTheEdgeTell() {
+        for (int edge = 0; edge < 24; edge++) {
+            int patch = edge / 2;
+            int side = edge % 2;
+            int beside = side == 0 ? patch + 1 : patch + 4;
+            if (side == 0 && patch % 4 == 3 || beside > 11) {
+                continue;
+            }
+            ColourPatches mesh = Look.behind(Look::colourAll);
+            mesh.slope(patch % 4 + 1, patch / 4 + side, 1 - side, 0, 200);
+            mesh.slope(patch % 4 + 1, patch / 4 + 1, side, 1, -200);
+            int alike = 1;
+            for (int at = 0; at <= 8; at++) {
+                for (int part = 0; part <= 2; part++) {
+                    int last = side == 0 ? mesh.point(patch, 8, at, part) : mesh.point(patch, at, 8, part);
+                    int first = side == 0 ? mesh.point(beside, 0, at, part) : mesh.point(beside, at, 0, part);
+                    alike = last == first ? alike : 0;
+                }
+            }
+            Check.due("patch " + patch + ", side " + side, mesh.agrees(patch, side), alike);
         }
     }
 
@@ -183,6 +207,22 @@ public final class EdgesTest {
                 points += part >= low && part <= low + 20 ? 1 : 0;
             }
             Check.due("from " + low, mesh.level(6, 0, low, low + 20), points);
+        }
+    }
+
+    static void promise14LevelCountsWhatThePointsTell() {
+        for (int patch = 0; patch < 12; patch++) {
+            ColourPatches mesh = Look.behind(Look::colourAll);
+            for (int part = 0; part <= 2; part++) {
+                int low = 20 * patch;
+                int high = low + 60 + 30 * part;
+                int points = 0;
+                for (int at = 0; at < 81; at++) {
+                    int value = mesh.point(patch, at % 9, at / 9, part);
+                    points += value >= low && value <= high ? 1 : 0;
+                }
+                Check.due("patch " + patch + ", part " + part, mesh.level(patch, part, low, high), points);
+            }
         }
     }
 
@@ -341,6 +381,34 @@ public final class EdgesTest {
         nearest(new ColourPatches(), 613, 412, 7, 1, 8, 144 + 144);
         nearest(new ColourPatches(), 613, 413, 11, 1, 1, 144 + 144);
         nearest(new ColourPatches(), 612, 412, 6, 8, 8, 144 + 144);
+    }
+
+    /** Of all 972 points by patch, v and u; an object for each patch tells where they are. */
+    static void promise15NearestIsTheFirstOfTheNearestPoints() {
+        int[][] points = new int[972][];
+        for (int at = 0; at < 972; at++) {
+            points[at] = new int[] {at / 81, at % 9, at / 9 % 9, 0, 0};
+        }
+        for (int patch = 0; patch < 12; patch++) {
+            ColourPatches mesh = Look.behind(Look::placeAll);
+            for (int at = 81 * patch; at < 81 * patch + 81; at++) {
+                points[at][3] = mesh.point(patch, points[at][1], points[at][2], 3);
+                points[at][4] = mesh.point(patch, points[at][1], points[at][2], 4);
+            }
+        }
+        for (int asked = 0; asked < 400; asked++) {
+            int x = asked * 277 % 1000;
+            int y = asked * 613 % 1000;
+            int[] best = points[0];
+            for (int[] point : points) {
+                best = away(point, x, y) < away(best, x, y) ? point : best;
+            }
+            nearest(Look.behind(Look::placeAll), x, y, best[0], best[1], best[2], away(best, x, y));
+        }
+    }
+
+    private static int away(int[] point, int x, int y) {
+        return (point[3] - x) * (point[3] - x) + (point[4] - y) * (point[4] - y);
     }
 
     // ---- promise 16

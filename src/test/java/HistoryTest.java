@@ -5,7 +5,7 @@ import java.util.function.Consumer;
 /** Promises 17 to 19: keep, restore, undo. */
 public final class HistoryTest {
     public static void main(String[] args) throws IllegalAccessException {
-        Cases.run(HistoryTest.class);
+        Cases.run(HistoryTest.class, args);
     }
 
     /** Four changes: places, colours, held corners and slopes of its own. */
@@ -83,6 +83,23 @@ public final class HistoryTest {
             first(mesh);
             mesh.keep();
         }, HistoryTest::first);
+    }
+
+    static void promise17KeepLeavesTheTextAndTheHistory() {
+        ColourPatches mesh = new ColourPatches();
+        mesh.hold(0, 0, 1, 2, 3);
+        mesh.hold(0, 0, 4, 5, 6);
+        Look.write(mesh, "f00;m11:0,9;");
+        Check.due("keep", mesh.keep(), 1);
+        Check.due("length", mesh.count(4), 12);
+        Check.due("states", mesh.count(3), 2);
+        Check.due("play", mesh.play(), 2);
+        int[] want = {4, 1, 128};
+        for (int part : want) {
+            mesh.undo();
+            Check.due("undone", mesh.cornerOf(0, 0, 2), part);
+        }
+        Check.due("undo", mesh.undo(), Check.NOT_POSSIBLE);
     }
 
     static void promise17KeepTakesThePlaceOfTheOneThatWas() {

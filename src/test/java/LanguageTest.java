@@ -25,6 +25,7 @@ public final class LanguageTest {
         library(bare);
         methodLengths(bare);
         parameters(bare);
+        making(bare);
         Check.end();
     }
 
@@ -94,5 +95,24 @@ public final class LanguageTest {
         while (list.find()) {
             Check.that("parameters " + list.group(1), list.group(1).split(",").length <= 7);
         }
+    }
+
+    /** Rows and objects are made by constructors alone, so that no number of calls fills the room. */
+    private static void making(String code) {
+        Check.begin("rule 12");
+        Pattern constructor = Pattern.compile("^ *(public )?[A-Z]\\w*\\(.*\\) \\{$");
+        Pattern method = Pattern.compile("^    (    )?(\\w+ )*[\\w\\[\\]]+ \\w+\\(.*\\{$");
+        String within = "no method";
+        int made = 0;
+        for (String line : code.split("\n")) {
+            if (constructor.matcher(line).matches() || method.matcher(line).matches()) {
+                within = line;
+            }
+            if (Pattern.compile("\\bnew\\b").matcher(line).find()) {
+                made++;
+                Check.that(line.trim() + " in " + within.trim(), constructor.matcher(within).matches());
+            }
+        }
+        Check.that("something is made", made > 0);
     }
 }

@@ -97,6 +97,47 @@ final class Look {
         }
     }
 
+    /** Holds all corners with uneven colours. */
+    static void colourAll(ColourPatches mesh) {
+        for (int corner = 0; corner < 20; corner++) {
+            int column = corner % 5;
+            int row = corner / 5;
+            mesh.hold(column, row, partOfColourAll(column, row, 0), partOfColourAll(column, row, 1),
+                    partOfColourAll(column, row, 2));
+        }
+    }
+
+    static int partOfColourAll(int column, int row, int part) {
+        return (91 * column + 53 * row + 37 * part + 29 * column * row * (part + 1)) % 251;
+    }
+
+    /** What a slope is when it is not told, as the document says. */
+    static int slopeOfColourAll(int column, int row, int along, int part) {
+        int at = along == 0 ? column : row;
+        int last = along == 0 ? 4 : 3;
+        int behind = Math.min(at + 1, last);
+        int ahead = Math.max(at - 1, 0);
+        int difference = along == 0
+                ? partOfColourAll(behind, row, part) - partOfColourAll(ahead, row, part)
+                : partOfColourAll(column, behind, part) - partOfColourAll(column, ahead, part);
+        return at == 0 || at == last ? difference : Math.floorDiv(difference, 2);
+    }
+
+    /** Moves all corners, so that the patches lie unevenly; some are folded. */
+    static void placeAll(ColourPatches mesh) {
+        for (int corner = 0; corner < 20; corner++) {
+            mesh.move(corner % 5, corner / 5, xOfPlaceAll(corner % 5, corner / 5), yOfPlaceAll(corner % 5, corner / 5));
+        }
+    }
+
+    static int xOfPlaceAll(int column, int row) {
+        return 199 * column + 61 * (row % 2) + 7 * column * row;
+    }
+
+    static int yOfPlaceAll(int column, int row) {
+        return 211 * row + 83 * (column % 3) + 5 * column * row;
+    }
+
     /** Tells all slopes of the four corners of a patch to be the same. */
     static void flatten(ColourPatches mesh, int patch, int slope) {
         for (int which = 0; which < 24; which++) {

@@ -1,3 +1,7 @@
+import java.util.HashSet;
+import java.util.List;
+import java.util.Set;
+
 /** Promises 8 to 11: cornerOf, point, patchOf, count. */
 public final class PointsTest {
     /** A, B, C and D of the document for 0 to 8, worked out by hand. */
@@ -7,7 +11,7 @@ public final class PointsTest {
     private static final int[] D = {0, -7, -24, -45, -64, -75, -72, -49, 0};
 
     public static void main(String[] args) throws IllegalAccessException {
-        Cases.run(PointsTest.class);
+        Cases.run(PointsTest.class, args);
     }
 
     // ---- promise 8
@@ -22,6 +26,41 @@ public final class PointsTest {
         int[] want = {601, 402, 11, 12, 13, 1, 20, 21, 22, 23, 24, 25, 6};
         for (int what = 0; what <= 12; what++) {
             Check.due("cornerOf(3, 2, " + what + ")", mesh.cornerOf(3, 2, what), want[what]);
+        }
+    }
+
+    /** All thirteen of all twenty corners: 160 changes and 260 looks. */
+    static void promise08CornerOfTellsAllOfEachCorner() {
+        ColourPatches mesh = new ColourPatches();
+        Look.colourAll(mesh);
+        Look.placeAll(mesh);
+        for (int which = 0; which < 120; which++) {
+            mesh.slope(which / 6 % 5, which / 30, which / 3 % 2, which % 3, 2 * which - 120);
+        }
+        for (int corner = 0; corner < 20; corner++) {
+            int column = corner % 5;
+            int row = corner / 5;
+            Check.due("x", mesh.cornerOf(column, row, 0), Look.xOfPlaceAll(column, row));
+            Check.due("y", mesh.cornerOf(column, row, 1), Look.yOfPlaceAll(column, row));
+            for (int part = 0; part <= 2; part++) {
+                Check.due("part " + part, mesh.cornerOf(column, row, 2 + part), Look.partOfColourAll(column, row, part));
+            }
+            Check.due("held", mesh.cornerOf(column, row, 5), 1);
+            for (int slope = 0; slope < 6; slope++) {
+                Check.due("slope " + slope, mesh.cornerOf(column, row, 6 + slope), 12 * corner + 2 * slope - 120);
+            }
+            Check.due("told", mesh.cornerOf(column, row, 12), 6);
+        }
+    }
+
+    static void promise08SlopesNotToldOfEveryCorner() {
+        ColourPatches mesh = Look.behind(Look::colourAll);
+        for (int which = 0; which < 120; which++) {
+            int column = which / 6 % 5;
+            int row = which / 30;
+            int want = Look.slopeOfColourAll(column, row, which / 3 % 2, which % 3);
+            Check.due("cornerOf(" + column + ", " + row + ", " + (6 + which % 6) + ")",
+                    mesh.cornerOf(column, row, 6 + which % 6), want);
         }
     }
 
@@ -228,6 +267,55 @@ public final class PointsTest {
         Check.due("10", flat(0, 10, 9, 255, 0).point(0, 1, 1, 0), 10);
     }
 
+    /** The colour of a point by the sum of the document, with slopes that are told or not. */
+    private static int partByTheSum(int patch, int u, int v, int part, boolean told) {
+        int sum = 0;
+        for (int which = 0; which < 4; which++) {
+            int column = patch % 4 + which % 2;
+            int row = patch / 4 + which / 2;
+            int p = which % 2 == 0 ? A[u] : B[u];
+            int q = which / 2 == 0 ? A[v] : B[v];
+            int r = which % 2 == 0 ? C[u] : D[u];
+            int s = which / 2 == 0 ? C[v] : D[v];
+            int byRow = told ? toldSlope(which, 0, part) : Look.slopeOfColourAll(column, row, 0, part);
+            int byColumn = told ? toldSlope(which, 1, part) : Look.slopeOfColourAll(column, row, 1, part);
+            sum += Look.partOfColourAll(column, row, part) * p * q + byRow * r * q + byColumn * p * s;
+        }
+        return Math.max(0, Math.min(255, Math.floorDiv(sum, 262144)));
+    }
+
+    private static int toldSlope(int which, int along, int part) {
+        return 70 * which - 41 * along - 83 * part;
+    }
+
+    static void promise09ColoursByPartsAndSlopesNotTold() {
+        for (int patch = 0; patch < 12; patch++) {
+            colours(Look.behind(Look::colourAll), patch, false);
+        }
+    }
+
+    static void promise09ColoursByPartsAndSlopesTold() {
+        for (int patch = 0; patch < 12; patch++) {
+            ColourPatches mesh = Look.behind(Look::colourAll);
+            for (int slope = 0; slope < 24; slope++) {
+                int which = slope / 6;
+                int along = slope / 3 % 2;
+                int part = slope % 3;
+                mesh.slope(patch % 4 + which % 2, patch / 4 + which / 2, along, part, toldSlope(which, along, part));
+            }
+            colours(mesh, patch, true);
+        }
+    }
+
+    private static void colours(ColourPatches mesh, int patch, boolean told) {
+        for (int at = 0; at < 243; at++) {
+            int u = at / 3 % 9;
+            int v = at / 27;
+            Check.due("point(" + patch + ", " + u + ", " + v + ", " + at % 3 + ")", mesh.point(patch, u, v, at % 3),
+                    partByTheSum(patch, u, v, at % 3, told));
+        }
+    }
+
     static void promise09ColoursTellEachPart() {
         ColourPatches mesh = new ColourPatches();
         Look.holdAll(mesh, 1, 2, 3);
@@ -283,6 +371,25 @@ public final class PointsTest {
                     Check.due("x", mesh.point(6, u, v, 3), 999 * weight / 64);
                     Check.due("y", mesh.point(6, u, v, 4), 10 * weight);
                 }
+            }
+        }
+    }
+
+    static void promise09PlacesByFourCorners() {
+        for (int patch = 0; patch < 12; patch++) {
+            ColourPatches mesh = Look.behind(Look::placeAll);
+            for (int at = 0; at < 81; at++) {
+                int u = at % 9;
+                int v = at / 9;
+                int x = 0;
+                int y = 0;
+                for (int which = 0; which < 4; which++) {
+                    int weight = (which % 2 == 0 ? 8 - u : u) * (which / 2 == 0 ? 8 - v : v);
+                    x += weight * Look.xOfPlaceAll(patch % 4 + which % 2, patch / 4 + which / 2);
+                    y += weight * Look.yOfPlaceAll(patch % 4 + which % 2, patch / 4 + which / 2);
+                }
+                Check.due("x of " + patch + ", " + u + ", " + v, mesh.point(patch, u, v, 3), x / 64);
+                Check.due("y of " + patch + ", " + u + ", " + v, mesh.point(patch, u, v, 4), y / 64);
             }
         }
     }
@@ -451,6 +558,43 @@ public final class PointsTest {
             ColourPatches valley = flat(0, 155, 255, 255, 255);
             valley.slope(0, 0, along, 0, -100);
             Check.due("least", valley.patchOf(0, 3), (155 * A[1] + 255 * B[1] - 100 * C[1]) / 512);
+        }
+    }
+
+    static void promise10ColoursAndSumsAreThoseOfThePoints() {
+        for (int patch = 0; patch < 12; patch++) {
+            ColourPatches mesh = Look.behind(Look::colourAll);
+            Set<List<Integer>> unlike = new HashSet<>();
+            int greatest = 0;
+            int least = 765;
+            for (int at = 0; at < 81; at++) {
+                int one = mesh.point(patch, at % 9, at / 9, 0);
+                int two = mesh.point(patch, at % 9, at / 9, 1);
+                int three = mesh.point(patch, at % 9, at / 9, 2);
+                unlike.add(List.of(one, two, three));
+                greatest = Math.max(greatest, one + two + three);
+                least = Math.min(least, one + two + three);
+            }
+            Check.due("unlike colours of " + patch, mesh.patchOf(patch, 1), unlike.size());
+            Check.due("greatest sum of " + patch, mesh.patchOf(patch, 2), greatest);
+            Check.due("least sum of " + patch, mesh.patchOf(patch, 3), least);
+        }
+    }
+
+    static void promise10AreaOfEachPatch() {
+        ColourPatches mesh = Look.behind(Look::placeAll);
+        for (int patch = 0; patch < 12; patch++) {
+            int[] around = {0, 1, 3, 2};
+            int area = 0;
+            for (int turn = 0; turn < 4; turn++) {
+                int corner = around[turn];
+                int next = around[(turn + 1) % 4];
+                int column = patch % 4;
+                int row = patch / 4;
+                area += Look.xOfPlaceAll(column + corner % 2, row + corner / 2) * Look.yOfPlaceAll(column + next % 2, row + next / 2)
+                        - Look.xOfPlaceAll(column + next % 2, row + next / 2) * Look.yOfPlaceAll(column + corner % 2, row + corner / 2);
+            }
+            Check.due("area of " + patch, mesh.patchOf(patch, 5), Math.abs(area));
         }
     }
 

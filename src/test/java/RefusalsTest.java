@@ -9,7 +9,7 @@ public final class RefusalsTest {
     private static final String FULL = "c00:000000;c10:000000;c20:000000;c30:000000;f00;f10;f20;f30;";
 
     public static void main(String[] args) throws IllegalAccessException {
-        Cases.run(RefusalsTest.class);
+        Cases.run(RefusalsTest.class, args);
     }
 
     /** The call is refused so behind the calls ahead of it, again if it comes again, and changes nothing. */

@@ -1,10 +1,12 @@
+import java.util.function.Consumer;
+
 /** Promises 20 to 23: type, clearText, fault, play. */
 public final class TextTest {
     /** Eight commands in 60 signs; all of them can be done on a new object. */
     private static final String FULL = "c00:000000;c10:000000;c20:000000;c30:000000;f00;f10;f20;f30;";
 
     public static void main(String[] args) throws IllegalAccessException {
-        Cases.run(TextTest.class);
+        Cases.run(TextTest.class, args);
     }
 
     private static ColourPatches with(String text) {
@@ -45,6 +47,32 @@ public final class TextTest {
 
     static void promise20TypeIsNoChange() {
         Check.due("states", with(FULL).count(3), 0);
+    }
+
+    /** Neither the corners, nor the states of the history, nor the snapshot. */
+    static void promise20TypeLeavesAllButTheText() {
+        leavesAllButTheText(mesh -> {
+            mesh.type('f');
+            mesh.type('c');
+        });
+    }
+
+    private static void leavesAllButTheText(Consumer<ColourPatches> calls) {
+        Consumer<ColourPatches> ahead = mesh -> {
+            mesh.hold(0, 1, 10, 20, 30);
+            mesh.slope(2, 3, 1, 0, -8);
+            mesh.keep();
+            mesh.move(4, 3, 900, 700);
+            mesh.hold(4, 1, 40, 50, 60);
+            mesh.free(0, 1);
+        };
+        Look.sameState("now", ahead.andThen(calls), ahead);
+        Look.sameState("restored", ahead.andThen(calls).andThen(ColourPatches::restore), ahead.andThen(ColourPatches::restore));
+        Consumer<ColourPatches> undone = ColourPatches::undo;
+        for (int times = 1; times <= 5; times++) {
+            Look.sameState("undone", ahead.andThen(calls).andThen(undone), ahead.andThen(undone));
+            undone = undone.andThen(ColourPatches::undo);
+        }
     }
 
     static void promise20TypeAppends() {
@@ -95,6 +123,13 @@ public final class TextTest {
         mesh.clearText();
         Check.due("states", mesh.count(3), 1);
         Check.due("held", mesh.cornerOf(0, 0, 5), 1);
+    }
+
+    static void promise21ClearTextLeavesAllButTheText() {
+        leavesAllButTheText(mesh -> {
+            mesh.type('f');
+            mesh.clearText();
+        });
     }
 
     // ---- promise 22
@@ -312,6 +347,26 @@ public final class TextTest {
         Check.due("cause", mesh.fault(2), Check.NOT_FOUND);
         mesh.type(';');
         Check.due("cause, ended", mesh.fault(2), Check.INVALID);
+    }
+
+    /** Each command for all columns and rows of one digit, and the call that it tells. */
+    static void promise22TheCauseIsWhatTheCallAnswers() {
+        for (int corner = 0; corner < 100; corner++) {
+            int column = corner / 10;
+            int row = corner % 10;
+            String place = "" + column + row;
+            cause("c" + place + ":0a1fe0;", Look.behind(Look::fill).hold(column, row, 10, 31, 224));
+            cause("f" + place + ";", Look.behind(Look::fill).free(column, row));
+            cause("m" + place + ":45,999;", Look.behind(Look::fill).move(column, row, 45, 999));
+        }
+    }
+
+    private static void cause(String command, int answer) {
+        ColourPatches mesh = Look.behind(Look::fill);
+        Look.rewrite(mesh, command);
+        Check.due("reason of " + command, mesh.fault(1), answer < 0 ? 2 : Check.NOT_FOUND);
+        Check.due("cause of " + command, mesh.fault(2), answer < 0 ? answer : Check.NOT_FOUND);
+        Check.due("play of " + command, mesh.play(), answer < 0 ? Check.NOT_POSSIBLE : 1);
     }
 
     static void promise22ASignBehindTheLastCommand() {
